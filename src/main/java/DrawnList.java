@@ -199,7 +199,11 @@ public final class DrawnList {
             return BAD;
         }
         Way way = plans[plan].possibleWay();
-        return way == null ? NOT : way.drawFromSeed(seed);
+        if (way == null) {
+            return NOT;
+        }
+        way.seed = seed;
+        return way.drawByLots();
     }
 
     public int makes(int plan, int draw) {
@@ -883,12 +887,8 @@ public final class DrawnList {
 
         abstract boolean canMake(int draw);
 
+        /** By the seed as it stands. */
         abstract int drawByLots();
-
-        final int drawFromSeed(int newSeed) {
-            seed = newSeed;
-            return drawByLots();
-        }
 
         final int castLot(int k) {
             seed = 1103515245 * seed + 12345;
