@@ -7,6 +7,8 @@
 public final class DrawnList {
     public static final int NONE = -1, BAD = -2, NOT = -3, FULL = -4;
 
+    private static final int LEAST_INT = 1 << 31;
+    private static final long LEAST_LONG = 1L << 63;
     private static final int NAMES = 30;
     private static final int LAYERS = 4;
     private static final int CLUSTERS = 8;
@@ -373,12 +375,12 @@ public final class DrawnList {
 
     public int get(int s, int form, int i) {
         if (!isSheet(s) || !isForm(form)) {
-            return Integer.MIN_VALUE;
+            return LEAST_INT;
         }
         int finding = sheets[s].findingAt(form, i);
         if (finding > 0) {
             latestFinding = finding;
-            return Integer.MIN_VALUE;
+            return LEAST_INT;
         }
         return sheets[s].items[i];
     }
@@ -504,7 +506,7 @@ public final class DrawnList {
     }
 
     private static long asLong(int refusal) {
-        return Long.MIN_VALUE - refusal;
+        return LEAST_LONG - refusal;
     }
 
     private static int swap(int[] row, int place, int now) {

@@ -44,58 +44,6 @@ public final class PromiseTest {
         CHECK.due(what, got, want);
     }
 
-    private static void plan(DrawnList x, int plan, String text) {
-        x.wipe(plan);
-        for (int i = 0; i < text.length(); i++) {
-            x.type(plan, text.charAt(i));
-        }
-    }
-
-    private static DrawnList planned(String text) {
-        DrawnList x = new DrawnList();
-        plan(x, 0, text);
-        return x;
-    }
-
-    /** Names of one layer, cluster and mark, of these sizes. */
-    private static DrawnList sized(int... sizes) {
-        DrawnList x = new DrawnList();
-        for (int size : sizes) {
-            x.name(0, 0, size, 0);
-        }
-        return x;
-    }
-
-    /** Names in clusters by numbers, so many in each; layers and marks go round. */
-    private static DrawnList clustered(int... counts) {
-        DrawnList x = new DrawnList();
-        for (int c = 0; c < counts.length; c++) {
-            for (int k = 0; k < counts[c]; k++) {
-                int number = x.count(0);
-                x.name(number % 4, c, 1 + number % 20, number % 3);
-            }
-        }
-        return x;
-    }
-
-    private static DrawnList layered(int... counts) {
-        DrawnList x = new DrawnList();
-        for (int l = 0; l < counts.length; l++) {
-            for (int k = 0; k < counts[l]; k++) {
-                x.name(l, l, 1, 0);
-            }
-        }
-        return x;
-    }
-
-    private static DrawnList full() {
-        DrawnList x = new DrawnList();
-        for (int i = 0; i < 30; i++) {
-            x.name(i % 4, i % 8, 1 + i % 20, i % 3);
-        }
-        return x;
-    }
-
     private static void promise1() {
         DrawnList x = new DrawnList();
         int[] atFirst = {0, 0, 0, 399, 0, 0, 0, 0, 0, 0};
@@ -129,7 +77,7 @@ public final class PromiseTest {
             due("2: wrong", x.name(w[0], w[1], w[2], w[3]), BAD);
         }
         due("2: wrong ones change nothing", x.count(0), 2);
-        DrawnList y = full();
+        DrawnList y = Lists.full();
         due("2: the last", y.count(0), 30);
         due("2: one too many", y.name(0, 0, 1, 0), FULL);
         due("2: bad comes ahead of full", y.name(4, 0, 1, 0), BAD);
@@ -213,7 +161,7 @@ public final class PromiseTest {
     }
 
     private static void promise6() {
-        DrawnList x = sized(1, 1);
+        DrawnList x = Lists.sized(1, 1);
         x.answer(0, 10, 5);
         x.answer(0, 20, 9);
         x.answer(1, 30, 7);
@@ -289,8 +237,8 @@ public final class PromiseTest {
         due("9: another stays", x.count(4), 2);
         due("9: no such plan", x.wipe(4), BAD);
         due("9: no such plan", x.wipe(-1), BAD);
-        plan(x, 2, "a5");
-        plan(x, 2, "e2");
+        Lists.plan(x, 2, "a5");
+        Lists.plan(x, 2, "e2");
         due("9: a new text", x.can(2), 1);
     }
 
@@ -302,9 +250,9 @@ public final class PromiseTest {
             {"t", 1}, {"t1", 2}, {"t1x", 3}, {"t1x1", -1}, {"t12x34", -1}, {"t123", 3}, {"t12x345", 6}, {"t1,1", 2}, {"t1X1", 2}, {"tx1", 1}, {"t1x1x", 4},
             {"q", 0}, {"\u00e11", 0}, {"a/", 1}, {"a:", 1}, {"a1:", 2}, {"a0", -1}};
         for (Object[] t : texts) {
-            due("10: fault of '" + t[0] + "'", planned((String) t[0]).fault(0), (Integer) t[1]);
+            due("10: fault of '" + t[0] + "'", Lists.planned((String) t[0]).fault(0), (Integer) t[1]);
         }
-        DrawnList x = planned("a1");
+        DrawnList x = Lists.planned("a1");
         due("10: no such plan", x.fault(4), BAD);
         due("10: no such plan", x.fault(-1), BAD);
         due("10: another plan is empty", x.fault(1), 0);
@@ -315,7 +263,7 @@ public final class PromiseTest {
     }
 
     private static void can(DrawnList x, String text, int want) {
-        plan(x, 0, text);
+        Lists.plan(x, 0, text);
         due("11: can " + text + " be", x.can(0), want);
     }
 
@@ -360,36 +308,36 @@ public final class PromiseTest {
     }
 
     private static void promise12() {
-        DrawnList x = full();
-        plan(x, 0, "a15");
+        DrawnList x = Lists.full();
+        Lists.plan(x, 0, "a15");
         due("12: fifteen of thirty", x.draws(0), 155117520L);
-        plan(x, 0, "a30");
+        Lists.plan(x, 0, "a30");
         due("12: all", x.draws(0), 1);
-        plan(x, 0, "a29");
+        Lists.plan(x, 0, "a29");
         due("12: all but one", x.draws(0), 30);
-        plan(x, 0, "l4,4,3,0");
+        Lists.plan(x, 0, "l4,4,3,0");
         due("12: by layers", x.draws(0), 70L * 70 * 35);
-        plan(x, 0, "e7");
+        Lists.plan(x, 0, "e7");
         due("12: each seventh", x.draws(0), 7);
-        plan(x, 0, "z1");
+        Lists.plan(x, 0, "z1");
         due("12: all sizes", x.draws(0), 265);
-        plan(x, 0, "z26");
+        Lists.plan(x, 0, "z26");
         due("12: cut", x.draws(0), 10);
-        DrawnList y = clustered(1, 2, 3, 0, 4);
-        plan(y, 0, "t2x2");
+        DrawnList y = Lists.clustered(1, 2, 3, 0, 4);
+        Lists.plan(y, 0, "t2x2");
         due("12: in two steps", y.draws(0), 1 + 3 + 6 + 3 + 6 + 18);
-        plan(y, 0, "t4x1");
+        Lists.plan(y, 0, "t4x1");
         due("12: one of each cluster", y.draws(0), 24);
-        plan(y, 0, "t3x9");
+        Lists.plan(y, 0, "t3x9");
         due("12: whole clusters", y.draws(0), 4);
-        plan(y, 0, "t5x1");
+        Lists.plan(y, 0, "t5x1");
         due("12: it cannot be", y.draws(0), LONG_NOT);
-        plan(y, 0, "");
+        Lists.plan(y, 0, "");
         due("12: an empty plan", y.draws(0), LONG_NOT);
         due("12: no such plan", y.draws(4), LONG_BAD);
         due("12: no such plan", y.draws(-1), LONG_BAD);
-        DrawnList z = clustered(4, 4, 4, 4, 4, 4, 3, 3);
-        plan(z, 0, "t8x2");
+        DrawnList z = Lists.clustered(4, 4, 4, 4, 4, 4, 3, 3);
+        Lists.plan(z, 0, "t8x2");
         due("12: many ways", z.draws(0), 46656L * 9);
     }
 
@@ -399,31 +347,31 @@ public final class PromiseTest {
     }
 
     private static void promise13() {
-        DrawnList x = full();
-        plan(x, 0, "a12");
+        DrawnList x = Lists.full();
+        Lists.plan(x, 0, "a12");
         share(x, 29, 2, 5);
-        plan(x, 0, "a30");
+        Lists.plan(x, 0, "a30");
         share(x, 0, 1, 1);
-        plan(x, 0, "l4,0,7,2");
+        Lists.plan(x, 0, "l4,0,7,2");
         share(x, 0, 1, 2);
         share(x, 1, 0, 1);
         share(x, 2, 1, 1);
         share(x, 3, 2, 7);
-        plan(x, 0, "e30");
+        Lists.plan(x, 0, "e30");
         share(x, 17, 1, 30);
-        plan(x, 0, "z2");
+        Lists.plan(x, 0, "z2");
         share(x, 19, 5, 33);
-        DrawnList y = clustered(4, 2, 1);
-        plan(y, 0, "t2x2");
+        DrawnList y = Lists.clustered(4, 2, 1);
+        Lists.plan(y, 0, "t2x2");
         share(y, 0, 1, 3);
         share(y, 4, 2, 3);
         share(y, 6, 2, 3);
         // Clusters are alike likely, whichever ways there are within them.
-        plan(y, 0, "t1x1");
+        Lists.plan(y, 0, "t1x1");
         share(y, 0, 1, 12);
         share(y, 6, 1, 3);
-        DrawnList z = sized(2, 5, 1, 1);
-        plan(z, 0, "z2");
+        DrawnList z = Lists.sized(2, 5, 1, 1);
+        Lists.plan(z, 0, "z2");
         share(z, 0, 1, 2);
         share(z, 1, 1, 1);
         share(z, 2, 1, 4);
@@ -446,32 +394,32 @@ public final class PromiseTest {
     }
 
     private static void promise14() {
-        DrawnList x = full();
-        plan(x, 0, "a10");
+        DrawnList x = Lists.full();
+        Lists.plan(x, 0, "a10");
         both(x, 0, 29, 3, 29);
-        plan(x, 0, "a1");
+        Lists.plan(x, 0, "a1");
         both(x, 0, 1, 0, 1);
-        plan(x, 0, "l4,2,0,1");
+        Lists.plan(x, 0, "l4,2,0,1");
         both(x, 0, 4, 3, 14);
         both(x, 0, 1, 1, 8);
         both(x, 0, 2, 0, 1);
         both(x, 3, 7, 0, 1);
-        plan(x, 0, "e4");
+        Lists.plan(x, 0, "e4");
         both(x, 3, 27, 1, 4);
         both(x, 3, 28, 0, 1);
-        DrawnList y = clustered(4, 3, 1);
-        plan(y, 0, "t2x2");
+        DrawnList y = Lists.clustered(4, 3, 1);
+        Lists.plan(y, 0, "t2x2");
         both(y, 0, 3, 1, 9);
         both(y, 0, 4, 1, 9);
         both(y, 4, 7, 2, 9);
-        plan(y, 0, "t1x4");
+        Lists.plan(y, 0, "t1x4");
         both(y, 0, 3, 1, 3);
         both(y, 0, 4, 0, 1);
-        DrawnList z = sized(3, 3, 3, 3);
-        plan(z, 0, "z2");
+        DrawnList z = Lists.sized(3, 3, 3, 3);
+        Lists.plan(z, 0, "z2");
         both(z, 0, 2, 1, 2);
         both(z, 0, 1, 0, 1);
-        plan(z, 0, "z5");
+        Lists.plan(z, 0, "z5");
         both(z, 0, 1, 1, 1);
         due("14: like names", z.both(0, 1, 1, 0), LONG_BAD);
         due("14: no such name", z.both(0, 4, 1, 0), LONG_BAD);
@@ -484,13 +432,13 @@ public final class PromiseTest {
     }
 
     private static void width(DrawnList x, String text, int least, int most) {
-        plan(x, 0, text);
+        Lists.plan(x, 0, text);
         due("15: least of " + text, x.width(0, 0), least);
         due("15: most of " + text, x.width(0, 1), most);
     }
 
     private static void promise15() {
-        DrawnList x = full();
+        DrawnList x = Lists.full();
         width(x, "a7", 7, 7);
         width(x, "l1,2,3,4", 10, 10);
         width(x, "e4", 7, 8);
@@ -499,16 +447,16 @@ public final class PromiseTest {
         width(x, "z1", 1, 1);
         // Steps of 2, up to point 197: twenty names, of which the first is one point long.
         width(x, "z99", 19, 20);
-        DrawnList y = clustered(4, 2, 0, 1, 3);
+        DrawnList y = Lists.clustered(4, 2, 0, 1, 3);
         width(y, "t2x9", 3, 7);
         width(y, "t2x2", 3, 4);
         width(y, "t3x1", 3, 3);
         width(y, "t4x3", 9, 9);
         width(y, "e11", 0, 1);
-        width(clustered(30), "t1x99", 30, 30);
-        width(clustered(30), "t1x30", 30, 30);
-        width(sized(1, 6, 1), "z3", 1, 2);
-        width(sized(1, 9, 1, 1), "z4", 2, 2);
+        width(Lists.clustered(30), "t1x99", 30, 30);
+        width(Lists.clustered(30), "t1x30", 30, 30);
+        width(Lists.sized(1, 6, 1), "z3", 1, 2);
+        width(Lists.sized(1, 9, 1, 1), "z4", 2, 2);
         due("15: no such end", x.width(0, 2), BAD);
         due("15: no such end", x.width(0, -1), BAD);
         due("15: no such plan", x.width(4, 0), BAD);
@@ -526,28 +474,28 @@ public final class PromiseTest {
 
     private static void promise16() {
         int seed = 12345678;
-        DrawnList x = full();
-        plan(x, 0, "e7");
+        DrawnList x = Lists.full();
+        Lists.plan(x, 0, "e7");
         int first = lot(next(seed), 7);
         int draw = 0;
         for (int i = first; i < 30; i += 7) {
             draw |= 1 << i;
         }
         due("16: each seventh", x.lots(0, seed), draw);
-        DrawnList y = layered(3, 2);
-        plan(y, 0, "l0,1,0,0");
+        DrawnList y = Lists.layered(3, 2);
+        Lists.plan(y, 0, "l0,1,0,0");
         // A lot for each of the first layer too, though none of it is wanted.
         int s = next(next(next(next(seed))));
         due("16: by layers", y.lots(0, seed), lot(s, 2) < 1 ? 8 : 16);
-        plan(y, 0, "l0,1,0,0");
+        Lists.plan(y, 0, "l0,1,0,0");
         due("16: it can be done again", y.lots(0, seed), y.lots(0, seed));
-        DrawnList z = sized(9, 1, 5);
-        plan(z, 0, "z1");
+        DrawnList z = Lists.sized(9, 1, 5);
+        Lists.plan(z, 0, "z1");
         int u = lot(next(-7), 15);
         due("16: by sizes", z.lots(0, -7), u < 9 ? 1 : u < 10 ? 2 : 4);
-        plan(x, 0, "a30");
+        Lists.plan(x, 0, "a30");
         due("16: all of thirty", x.lots(0, 99), (1 << 30) - 1);
-        plan(x, 0, "t8x30");
+        Lists.plan(x, 0, "t8x30");
         due("16: all clusters", x.lots(0, 5), (1 << 30) - 1);
         due("16: the least seed", x.lots(0, LOW), (1 << 30) - 1);
         due("16: no such plan", x.lots(4, 0), BAD);
@@ -555,7 +503,7 @@ public final class PromiseTest {
         due("16: it cannot be", x.lots(1, 0), NOT);
         String[] texts = {"a11", "l2,0,7,1", "e9", "z13", "t3x2"};
         for (String text : texts) {
-            plan(x, 0, text);
+            Lists.plan(x, 0, text);
             for (int k = -50; k < 50; k++) {
                 due("16: a draw of " + text, x.makes(0, x.lots(0, k * 40000001)), 1);
             }
@@ -563,12 +511,12 @@ public final class PromiseTest {
     }
 
     private static void makes(DrawnList x, String text, int draw, int want) {
-        plan(x, 0, text);
+        Lists.plan(x, 0, text);
         due("17: " + text + " makes " + draw, x.makes(0, draw), want);
     }
 
     private static void promise17() {
-        DrawnList x = layered(2, 2, 0, 1);
+        DrawnList x = Lists.layered(2, 2, 0, 1);
         makes(x, "a2", 0b10001, 1);
         makes(x, "a2", 0b10101, 0);
         makes(x, "a2", 0, 0);
@@ -599,19 +547,19 @@ public final class PromiseTest {
         makes(x, "a6", 0b11111, NOT);
         makes(x, "a6", 0b111111, BAD);
         due("17: no such plan", x.makes(4, 0), BAD);
-        makes(full(), "a30", (1 << 30) - 1, 1);
-        makes(full(), "a30", 1 << 30, BAD);
-        makes(full(), "a30", HIGH, BAD);
+        makes(Lists.full(), "a30", (1 << 30) - 1, 1);
+        makes(Lists.full(), "a30", 1 << 30, BAD);
+        makes(Lists.full(), "a30", HIGH, BAD);
     }
 
     private static void sum(DrawnList x, String text, int draw, long above, long below) {
-        plan(x, 0, text);
+        Lists.plan(x, 0, text);
         due("18: sum by " + text + ", above", x.sum(0, draw, 0), above);
         due("18: sum by " + text + ", below", x.sum(0, draw, 1), below);
     }
 
     private static void promise18and19() {
-        DrawnList x = clustered(3, 2);
+        DrawnList x = Lists.clustered(3, 2);
         for (int i = 0; i < 4; i++) {
             x.answer(i, 10 * i + 1, 0);
         }
@@ -628,7 +576,7 @@ public final class PromiseTest {
         sum(x, "t1x2", 0b00011, 36, 1);
         sum(x, "t1x2", 0b11000, 62, 1);
         sum(x, "t2x1", 0b10100, 63, 1);
-        plan(x, 0, "a2");
+        Lists.plan(x, 0, "a2");
         due("18: a draw that it cannot make", x.sum(0, 0b00111, 0), LONG_BAD);
         due("18: names that there are not", x.sum(0, 0b100001, 0), LONG_BAD);
         due("18: no such part", x.sum(0, 0b00011, 2), LONG_BAD);
@@ -649,13 +597,13 @@ public final class PromiseTest {
     }
 
     private static void spread(DrawnList x, String text, long above, long below) {
-        plan(x, 0, text);
+        Lists.plan(x, 0, text);
         due("20: spread of " + text + ", above", x.spread(0, 0), above);
         due("20: spread of " + text + ", below", x.spread(0, 1), below);
     }
 
     private static void promise20() {
-        DrawnList x = layered(2, 3);
+        DrawnList x = Lists.layered(2, 3);
         int[] values = {0, 10, 1, 2, 9};
         for (int i = 0; i < 5; i++) {
             x.answer(i, values[i], 0);
@@ -668,24 +616,24 @@ public final class PromiseTest {
         spread(x, "l1,1,0,0", 214, 1);
         spread(x, "l2,3,0,0", 0, 1);
         spread(x, "l0,2,0,0", 57, 2);
-        DrawnList one = layered(1);
+        DrawnList one = Lists.layered(1);
         one.answer(0, 9, 0);
         spread(one, "a1", 0, 1);
         x.name(1, 0, 1, 0);
-        plan(x, 0, "a1");
+        Lists.plan(x, 0, "a1");
         due("20: a value lacks", x.spread(0, 0), LONG_NOT);
-        plan(x, 0, "l0,1,0,0");
+        Lists.plan(x, 0, "l0,1,0,0");
         due("20: a value lacks in the layer", x.spread(0, 0), LONG_NOT);
         spread(x, "l1,0,0,0", 100, 1);
         x.answer(5, 4, 399);
         for (String text : new String[] {"e1", "z1", "t1x1", "a7", "a0", "l3,0,0,0", "a"}) {
-            plan(x, 0, text);
+            Lists.plan(x, 0, text);
             due("20: no spread of " + text, x.spread(0, 0), LONG_NOT);
         }
         due("20: no such part", x.spread(0, 2), LONG_BAD);
         due("20: no such plan", x.spread(4, 0), LONG_BAD);
         due("20: no such plan", x.spread(-1, 0), LONG_BAD);
-        DrawnList far = full();
+        DrawnList far = Lists.full();
         for (int i = 0; i < 30; i++) {
             far.answer(i, i % 2 * 10000, 0);
         }
@@ -693,14 +641,14 @@ public final class PromiseTest {
     }
 
     private static void promise21() {
-        DrawnList x = layered(3, 3);
+        DrawnList x = Lists.layered(3, 3);
         for (int i = 0; i < 6; i++) {
             x.answer(i, i * i, 0);
         }
-        plan(x, 0, "a3");
-        plan(x, 1, "l1,2,0,0");
-        plan(x, 2, "a6");
-        plan(x, 3, "e1");
+        Lists.plan(x, 0, "a3");
+        Lists.plan(x, 1, "l1,2,0,0");
+        Lists.plan(x, 2, "a6");
+        Lists.plan(x, 3, "e1");
         due("21: greater", x.wider(0, 1), Long.compare(x.spread(0, 0) * x.spread(1, 1), x.spread(1, 0) * x.spread(0, 1)));
         due("21: greater", x.wider(0, 2), 1);
         due("21: less", x.wider(2, 0), -1);
@@ -710,18 +658,18 @@ public final class PromiseTest {
         due("21: no such plan", x.wider(4, 0), BAD);
         due("21: no such plan", x.wider(0, -1), BAD);
         due("21: bad comes ahead of not", x.wider(3, 4), BAD);
-        plan(x, 3, "a03");
+        Lists.plan(x, 3, "a03");
         due("21: as great, by another text", x.wider(0, 3), 0);
         // Whole parts alike, rests apart: 4/3 against 1 and 3/2 by layers of their own.
-        DrawnList y = layered(3, 2, 2);
+        DrawnList y = Lists.layered(3, 2, 2);
         int[] values = {0, 0, 1, 0, 1, 0, 1};
         for (int i = 0; i < values.length; i++) {
             y.answer(i, values[i], 0);
         }
-        plan(y, 0, "l1,0,0,0");
-        plan(y, 1, "l0,1,0,0");
-        plan(y, 2, "l2,1,0,0");
-        plan(y, 3, "l0,1,1,0");
+        Lists.plan(y, 0, "l1,0,0,0");
+        Lists.plan(y, 1, "l0,1,0,0");
+        Lists.plan(y, 2, "l2,1,0,0");
+        Lists.plan(y, 3, "l0,1,1,0");
         due("21: 2 against 1", y.wider(0, 1), 1);
         due("21: 3/2 against 1", y.wider(2, 1), 1);
         due("21: 1 against 3/2", y.wider(1, 2), -1);
@@ -729,13 +677,13 @@ public final class PromiseTest {
     }
 
     private static void edge(DrawnList x, String text, long least, long greatest) {
-        plan(x, 0, text);
+        Lists.plan(x, 0, text);
         due("22: least of " + text, x.edge(0, 0), least);
         due("22: greatest of " + text, x.edge(0, 1), greatest);
     }
 
     private static void promise22() {
-        DrawnList x = sized(2, 3, 1);
+        DrawnList x = Lists.sized(2, 3, 1);
         edge(x, "e2", 0, 0);
         edge(x, "z1", 0, 0);
         x.answer(0, 5, 0);
@@ -752,7 +700,7 @@ public final class PromiseTest {
         edge(x, "e2", 0, 24);
         edge(x, "z2", 7, 21);
         for (String text : new String[] {"a1", "l1,0,0,0", "t1x1", "e0", "e31", "z0", "z7", "e"}) {
-            plan(x, 0, text);
+            Lists.plan(x, 0, text);
             due("22: no edge of " + text, x.edge(0, 0), LONG_NOT);
         }
         due("22: no such edge", x.edge(0, 2), LONG_BAD);
@@ -788,7 +736,7 @@ public final class PromiseTest {
 
     private static void promise24() {
         DrawnList x = led();
-        plan(x, 0, "a3");
+        Lists.plan(x, 0, "a3");
         x.known(0, 0, 100);
         x.known(1, 0, 61);
         x.known(1, 1, 40);
@@ -797,12 +745,12 @@ public final class PromiseTest {
         due("24: one round", x.weight(0, 7, 1, 0), 31);
         due("24: one round", x.weight(0, 7, 1, 1), 30);
         due("24: one round", x.weight(0, 7, 1, 2), 40);
-        plan(x, 0, "a2");
+        Lists.plan(x, 0, "a2");
         due("24: by the share", x.weight(0, 3, 0, 0), 1500);
         due("24: not in the draw", x.weight(0, 3, 0, 2), 0);
         due("24: not in the draw", x.weight(0, 3, 9, 2), 0);
         DrawnList y = led();
-        plan(y, 0, "a3");
+        Lists.plan(y, 0, "a3");
         y.answer(1, -1, 1);
         due("24: silent", y.weight(0, 7, 0, 1), 0);
         y.known(0, 0, 1);
@@ -813,8 +761,8 @@ public final class PromiseTest {
         due("24: none together, so not led", y.weight(0, 7, 1, 2), 0);
         y.known(0, 0, 0);
         due("24: led to nothing", y.weight(0, 7, 1, 0), 0);
-        DrawnList z = sized(7, 3);
-        plan(z, 0, "z1");
+        DrawnList z = Lists.sized(7, 3);
+        Lists.plan(z, 0, "z1");
         z.answer(0, 1, 0);
         z.answer(1, 1, 0);
         due("24: cut", z.weight(0, 1, 0, 0), 1428);
@@ -836,7 +784,7 @@ public final class PromiseTest {
 
     private static void promise25() {
         DrawnList x = led();
-        plan(x, 0, "a3");
+        Lists.plan(x, 0, "a3");
         x.known(0, 0, 100);
         x.known(0, 2, 5);
         x.known(1, 0, 61);
@@ -849,8 +797,8 @@ public final class PromiseTest {
         x.answer(1, 0, 1);
         x.answer(2, 49, 1);
         due("25: led sum, cut", x.led(0, 7, 1, 1), (31 + 40 * 49) / 1000);
-        DrawnList y = sized(1);
-        plan(y, 0, "a1");
+        DrawnList y = Lists.sized(1);
+        Lists.plan(y, 0, "a1");
         y.known(0, 0, 1);
         y.known(1, 0, 1);
         y.answer(0, 999, 0);
@@ -877,7 +825,7 @@ public final class PromiseTest {
     }
 
     private static void promise26and27() {
-        DrawnList x = clustered(1, 2, 3);
+        DrawnList x = Lists.clustered(1, 2, 3);
         due("26: what it was", x.cost(0, 100), 5);
         due("26: what it was", x.cost(0, 0), 100);
         due("26: what it was", x.cost(7, 9), 5);
@@ -886,7 +834,7 @@ public final class PromiseTest {
             due("26: wrong", x.cost(w[0], w[1]), BAD);
         }
         due("26: wrong ones change nothing", x.cost(0, 4), 0);
-        plan(x, 0, "a6");
+        Lists.plan(x, 0, "a6");
         x.cost(1, 6);
         x.cost(2, 7);
         best(x, 63, 0, 0, 0, 0);
@@ -911,15 +859,15 @@ public final class PromiseTest {
         best(x, 63, 800, 6, 4000, 11);
         x.cost(1, 0);
         best(x, 63, 0, 2, 2000, 0);
-        plan(x, 0, "a4");
+        Lists.plan(x, 0, "a4");
         best(x, 0b110110, 800, 6, 6000, 5);
-        plan(x, 0, "t1x2");
+        Lists.plan(x, 0, "t1x2");
         best(x, 0b110000, 800, 4, 9000, 5);
-        plan(x, 0, "z1");
+        Lists.plan(x, 0, "z1");
         best(x, 0b100000, 800, 4, 3500, 5);
         best(x, 0b010000, 800, 4, 4200, 5);
         best(x, 0b000100, 800, 2, 7000, 0);
-        plan(x, 0, "z2");
+        Lists.plan(x, 0, "z2");
         due("27: each is cut", x.again(0, 0b010010, 800, 1), 10 * 1000 / 2 + 10 * 1000 / 5);
         due("27: price", x.again(0, 0b010010, 801, 0), BAD);
         due("27: price", x.again(0, 0b010010, -1, 0), BAD);
@@ -1044,7 +992,7 @@ public final class PromiseTest {
     }
 
     private static void promise33() {
-        DrawnList x = full();
+        DrawnList x = Lists.full();
         due("33: lost", x.write(0, 1), NULL);
         x.sheet(0, 0, 4);
         due("33: fewer than items", x.write(0, 1 << 29 | 1 << 3), 2);
@@ -1065,21 +1013,21 @@ public final class PromiseTest {
         due("33: no such sheet", x.write(4, 1), BAD);
         due("33: no such sheet", x.write(-1, 1), BAD);
         due("33: bad comes ahead of null", x.write(3, LOW), BAD);
-        DrawnList y = sized(1, 1);
+        DrawnList y = Lists.sized(1, 1);
         y.sheet(0, 0, 9);
         due("33: no such names", y.write(0, 4), BAD);
     }
 
     private static void promise34() {
-        DrawnList x = clustered(1, 0, 2);
+        DrawnList x = Lists.clustered(1, 0, 2);
         x.answer(0, 1, 5);
         x.answer(1, 1, 6);
         x.answer(1, -1, 7);
         x.asOf(6);
-        plan(x, 0, "a");
-        plan(x, 1, "a1");
-        plan(x, 2, "a12");
-        plan(x, 3, "l1,2");
+        Lists.plan(x, 0, "a");
+        Lists.plan(x, 1, "a1");
+        Lists.plan(x, 2, "a12");
+        Lists.plan(x, 3, "l1,2");
         x.lose(0);
         int[] want = {3, 2, 3, 6, 1, 2, 3, 4, 1, 2};
         for (int what = 0; what < want.length; what++) {
@@ -1106,9 +1054,9 @@ public final class PromiseTest {
         due("35: empty", x.digest(), h);
         x.lose(0);
         due("35: findings do not count", x.digest(), h);
-        DrawnList y = sized(4);
+        DrawnList y = Lists.sized(4);
         y.answer(0, 6, 1);
-        plan(y, 0, "a1");
+        Lists.plan(y, 0, "a1");
         long g = 17;
         for (int part : new int[] {1, 1, 1, 399, 2, 0, 0, 0, 1, 0, 0, 4, 0, 6, -1, 1, 1, 1, 1, 1}) {
             g = 31 * g + part;

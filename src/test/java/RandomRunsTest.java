@@ -2,9 +2,13 @@ import java.util.Random;
 
 /**
  * Runs of calls by a fixed seed, each call made of the program and of the reference. Ordinary
- * arguments mostly, with wrong ones among them.
+ * arguments mostly, with wrong ones among them. Beyond 512 calls of an object nothing is promised,
+ * so what a run wants to know for its next call it asks of the reference.
  */
 public final class RandomRunsTest {
+    private static final int MOST_CALLS = 512;
+    /** More than any step makes. */
+    private static final int CALLS_OF_A_STEP = 40;
     private static final int[] ODD = {Integer.MIN_VALUE, Integer.MAX_VALUE, -1, -2, 0, 1, 2, 3, 4, 5, 30, 31, 32, 90, 91, 100, 1 << 30};
 
     private final Check check;
@@ -13,7 +17,7 @@ public final class RandomRunsTest {
     private final Reference r = new Reference();
     private final int mostNames;
     private final int run;
-    private int step;
+    private int calls;
 
     private RandomRunsTest(Check check, int run) {
         this.check = check;
@@ -25,8 +29,10 @@ public final class RandomRunsTest {
 
     public static void main(String[] args) {
         Check check = new Check("RandomRunsTest");
-        for (int run = 1; run <= 600 && check.failures() == 0; run++) {
-            new RandomRunsTest(check, run).go();
+        for (int run = 1; run <= 1000 && check.failures() == 0; run++) {
+            RandomRunsTest test = new RandomRunsTest(check, run);
+            test.go();
+            check.holds("run " + run + " makes " + test.calls + " calls", test.calls <= MOST_CALLS);
         }
         check.close();
     }
@@ -37,13 +43,14 @@ public final class RandomRunsTest {
                 addName();
             }
         }
-        for (step = 0; step < 400 && check.failures() == 0; step++) {
+        while (calls <= MOST_CALLS - CALLS_OF_A_STEP && check.failures() == 0) {
             call(random.nextInt(34));
         }
     }
 
     private void due(String what, long got, long want) {
-        check.due("run " + run + " step " + step + ": " + what, got, want);
+        calls++;
+        check.due("run " + run + " call " + calls + ": " + what, got, want);
     }
 
     private int upTo(int most) {
@@ -51,7 +58,7 @@ public final class RandomRunsTest {
     }
 
     private int names() {
-        return x.count(0);
+        return r.count(0);
     }
 
     private int someName() {
@@ -60,8 +67,8 @@ public final class RandomRunsTest {
 
     private int someDraw(int plan) {
         int kind = random.nextInt(12);
-        if (kind < 9 && x.can(plan) == 1) {
-            return x.lots(plan, random.nextInt());
+        if (kind < 9 && r.can(plan) == 1) {
+            return r.lots(plan, random.nextInt());
         }
         if (kind == 9) {
             return random.nextInt();
@@ -102,14 +109,14 @@ public final class RandomRunsTest {
                 return "z" + (random.nextInt(3) == 0 ? random.nextInt(100) : random.nextInt(10));
             case 7:
             case 8:
-                return "t" + random.nextInt(x.count(9) + 2) + "x" + random.nextInt(5);
+                return "t" + random.nextInt(r.count(9) + 2) + "x" + random.nextInt(5);
             default:
                 return brokenText();
         }
     }
 
     private int share(int layer) {
-        return random.nextInt(x.many(0, layer) + (random.nextInt(8) == 0 ? 2 : 1));
+        return random.nextInt(r.many(0, layer) + (random.nextInt(8) == 0 ? 2 : 1));
     }
 
     private String brokenText() {
