@@ -9,6 +9,7 @@ public final class BoundaryPlansTest {
 
     public static void main(String[] args) {
         fourPlans();
+        eachOfFourPlans();
         upToTwentyBytes();
         waysOfAllAndLayers();
         waysOfEach();
@@ -97,6 +98,33 @@ public final class BoundaryPlansTest {
                 bad(LONG_BAD, "plan", x -> x.draws(beyond), x -> x.share(beyond, 0, 0), x -> x.both(beyond, 0, 1, 0));
             });
         }
+    }
+
+    private interface PlanCall {
+        long on(DrawnList x, int plan);
+    }
+
+    /** The call is taken of plan 3 and BAD beyond both ends. */
+    private static void plansOf(String place, String words, long answer, PlanCall call) {
+        of(place, words, "plans -1 and 4 are BAD, 3 is not", () -> {
+            for (int beyond : new int[] {-1, 4, LOW, HIGH}) {
+                refused("plan " + beyond, Lists::rich, x -> call.on(x, beyond), answer);
+            }
+            due("plan 3 is BAD", call.on(Lists.rich(), 3) == answer ? 1 : 0, 0);
+        });
+    }
+
+    private static void eachOfFourPlans() {
+        plansOf("Promise 8", "A byte (0 to 255) comes behind a PLAN: how many. BAD; FULL.", BAD, (x, plan) -> x.type(plan, 'a'));
+        plansOf("Promise 9", "A PLAN is empty: how many bytes it had. BAD.", BAD, DrawnList::wipe);
+        plansOf("Promise 10", "The FAULT of a PLAN; NONE. BAD.", BAD, DrawnList::fault);
+        plansOf("Promise 11", "Whether a PLAN CAN BE: 1, 0. BAD.", BAD, DrawnList::can);
+        plansOf("Promise 12", "DRAWS of a PLAN. BAD; NOT: it cannot be.", LONG_BAD, DrawnList::draws);
+        plansOf("Promise 13", "above (what = 0), below (1). BAD; NOT: the PLAN cannot be.", LONG_BAD, (x, plan) -> x.share(plan, 0, 0));
+        plansOf("Promise 14", "SHARE of two unlike NAMES likewise. BAD; NOT.", LONG_BAD, (x, plan) -> x.both(plan, 0, 1, 0));
+        plansOf("Promise 15", "at the most (1), over all ways. BAD; NOT.", BAD, (x, plan) -> x.width(plan, 0));
+        plansOf("Promise 16", "A DRAW BY LOTS. BAD; NOT.", BAD, (x, plan) -> x.lots(plan, 1));
+        plansOf("Promise 17", "Whether a PLAN can make a DRAW: 1, 0. BAD", BAD, (x, plan) -> x.makes(plan, 3));
     }
 
     /** Plan 0 of so many bytes, a figure each behind the first. */

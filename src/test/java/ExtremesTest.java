@@ -5,14 +5,17 @@ import java.util.Arrays;
 import java.util.Comparator;
 import java.util.List;
 import java.util.Random;
+import java.util.Set;
 
 /**
  * Each call with ends and beyonds of all bounds, any with any, of a new object, of one with something
- * of everything, of a full one: nothing is thrown, and what is refused changes nothing.
+ * of everything, of a full one: nothing is thrown, and what is refused or asks alone changes nothing.
  */
 public final class ExtremesTest {
     private static final int[] ENDS = {Integer.MIN_VALUE, Integer.MIN_VALUE + 1, -2, -1, 0, 1, 2, 3, 4, 5, 6, 7, 8, 20, 21, 29, 30, 31, 89, 90, 91,
         399, 400, 801, 10000, 10001, 30000, 30001, (1 << 29) - 1, 1 << 29, (1 << 30) - 1, 1 << 30, Integer.MAX_VALUE};
+    /** All other calls ask alone. */
+    private static final Set<String> DOING = Set.of("name", "read", "answer", "asOf", "type", "wipe", "known", "cost", "sheet", "lose", "put", "copy", "write");
     private static final int MOST_SAMPLES = 8000;
     /** With the calls that make the object they stay below 512. */
     private static final int SAMPLES_OF_AN_OBJECT = 60;
@@ -74,8 +77,8 @@ public final class ExtremesTest {
         try {
             long answer = ((Number) m.invoke(x, given)).longValue();
             boolean refused = m.getReturnType() == long.class ? answer == Long.MIN_VALUE + 2 || answer == Long.MIN_VALUE + 3 : answer <= -2;
-            if (refused) {
-                CHECK.holds(m.getName() + Arrays.toString(given) + " is refused and changes nothing", x.digest() == before);
+            if (refused || !DOING.contains(m.getName())) {
+                CHECK.holds(m.getName() + Arrays.toString(given) + " changes nothing", x.digest() == before);
             }
             boolean found = answer <= -11 && answer >= -15;
             boolean maybeFound = m.getName().equals("get");

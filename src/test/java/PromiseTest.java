@@ -503,9 +503,9 @@ public final class PromiseTest {
         due("16: it cannot be", x.lots(1, 0), NOT);
         String[] texts = {"a11", "l2,0,7,1", "e9", "z13", "t3x2"};
         for (String text : texts) {
-            Lists.plan(x, 0, text);
+            DrawnList w = Lists.with(Lists.full(), text);
             for (int k = -50; k < 50; k++) {
-                due("16: a draw of " + text, x.makes(0, x.lots(0, k * 40000001)), 1);
+                due("16: a draw of " + text, w.makes(0, w.lots(0, k * 40000001)), 1);
             }
         }
     }

@@ -2,18 +2,22 @@ import java.lang.management.ManagementFactory;
 
 /** After an object has been made no call makes another: all calls of a run live in one room. */
 public final class RoomTest {
+    /** So many rounds and no more come to at most 512 calls of an object. */
+    private static final int ROUNDS_OF_AN_OBJECT = 3;
+    private static final int OBJECTS = 7;
+
     private static long answers;
 
     public static void main(String[] args) {
         Check check = new Check("RoomTest");
         // Classes are loaded and methods linked at first use; that is not the calls' own.
-        callEverything(new DrawnList());
-        DrawnList x = new DrawnList();
+        callEverything(objects());
+        DrawnList[] all = objects();
         com.sun.management.ThreadMXBean threads = (com.sun.management.ThreadMXBean) ManagementFactory.getThreadMXBean();
         long self = Thread.currentThread().getId();
         threads.getThreadAllocatedBytes(self);
         long before = threads.getThreadAllocatedBytes(self);
-        callEverything(x);
+        callEverything(all);
         long made = threads.getThreadAllocatedBytes(self) - before;
         check.holds("calls made " + made + " bytes, answers were " + answers, made < 1024);
         before = threads.getThreadAllocatedBytes(self);
@@ -33,12 +37,26 @@ public final class RoomTest {
         }
     }
 
-    private static void callEverything(DrawnList x) {
+    private static DrawnList[] objects() {
+        DrawnList[] all = new DrawnList[OBJECTS];
+        for (int k = 0; k < OBJECTS; k++) {
+            all[k] = new DrawnList();
+        }
+        return all;
+    }
+
+    private static void callEverything(DrawnList[] all) {
+        for (int k = 0; k < all.length; k++) {
+            callEverything(all[k], ROUNDS_OF_AN_OBJECT * k);
+        }
+    }
+
+    private static void callEverything(DrawnList x, int first) {
         for (int i = 0; i < 30; i++) {
             x.name(i % 4, i % 8, 1 + i % 20, i % 3);
             x.answer(i, i * 300, i);
         }
-        for (int round = 0; round < 20; round++) {
+        for (int round = first; round < first + ROUNDS_OF_AN_OBJECT; round++) {
             text(x, 0, 'a', '9', 0, 0);
             text(x, 1, 'l', '2', ',', '3');
             text(x, 2, round % 2 == 0 ? 'e' : 'z', '4', 0, 0);
