@@ -1,12 +1,12 @@
 /** Boundary cases of names and answers: the document's part 1 and promises 1 to 7, sentence by sentence. */
-public final class BoundaryNamesTest {
-    private static final int LOW = Integer.MIN_VALUE, HIGH = Integer.MAX_VALUE;
-    private static final int NONE = -1, BAD = -2, FULL = -4, NULL = -11;
+public final class BoundaryNamesTest extends Cases {
     private static final String ORDER = "Refusals, the first that fits, in the order told at each act";
 
-    private static final Cases CASES = new Cases("BoundaryNamesTest");
-
     public static void main(String[] args) {
+        new BoundaryNamesTest().run();
+    }
+
+    void all() {
         atMostSoManyCalls();
         boundsOfNames();
         boundsOfAnswers();
@@ -19,29 +19,9 @@ public final class BoundaryNamesTest {
         answer();
         asOf();
         many();
-        CASES.close();
     }
 
-    private static void of(String place, String words, String edge, Runnable body) {
-        CASES.of(place, words, edge, body);
-    }
-
-    private static void due(String what, long got, long want) {
-        CASES.due(what, got, want);
-    }
-
-    private static void refused(String what, Cases.Maker maker, Cases.Call call, long answer) {
-        CASES.refused(what, maker, call, answer);
-    }
-
-    /** Calls that are BAD on the object of everything. */
-    private static void bad(String what, Cases.Call... calls) {
-        for (int k = 0; k < calls.length; k++) {
-            refused(what + ", call " + k, Lists::rich, calls[k], BAD);
-        }
-    }
-
-    private static void atMostSoManyCalls() {
+    private void atMostSoManyCalls() {
         of("What it is", "An object is used for at most 512 calls after it has been made", "the 512th answers yet", () -> {
             DrawnList x = new DrawnList();
             for (int k = 1; k < 512; k++) {
@@ -65,7 +45,7 @@ public final class BoundaryNamesTest {
         });
     }
 
-    private static void boundsOfNames() {
+    private void boundsOfNames() {
         String words = "NAMES 0 .. 29 (30 at most)";
         of("Terms 1", words, "the first is 0", () -> due("name", new DrawnList().name(0, 0, 1, 0), 0));
         of("Terms 1", words, "the thirtieth is 29", () -> {
@@ -81,7 +61,7 @@ public final class BoundaryNamesTest {
     }
 
     /** One argument of name() at both ends and just beyond. */
-    private static void bounds(String words, int which, int least, int most) {
+    private void bounds(String words, int which, int least, int most) {
         for (int end : new int[] {least, most}) {
             of("Terms 1", words, end + " is taken", () -> {
                 DrawnList x = new DrawnList();
@@ -106,7 +86,7 @@ public final class BoundaryNamesTest {
         return x;
     }
 
-    private static void boundsOfAnswers() {
+    private void boundsOfAnswers() {
         of("Terms 1", "ANSWERS, 120 at most", "the 120th is taken", () -> {
             DrawnList x = answered(119);
             due("answer", x.answer(1, 7, 0), 120);
@@ -127,7 +107,7 @@ public final class BoundaryNamesTest {
             });
         }
         for (int beyond : new int[] {-2, 10001, LOW, HIGH}) {
-            of("Terms 1", value, beyond + " is BAD", () -> bad("answer", x -> x.answer(0, beyond, 9)));
+            of("Terms 1", value, beyond + " is BAD", () -> refused(BAD, "answer", x -> x.answer(0, beyond, 9)));
         }
         for (int taken : new int[] {0, 399}) {
             of("Terms 1", "on a DAY (0 to 399)", taken + " is taken", () -> {
@@ -137,16 +117,16 @@ public final class BoundaryNamesTest {
             });
         }
         for (int beyond : new int[] {-1, 400, LOW, HIGH}) {
-            of("Terms 1", "on a DAY (0 to 399)", beyond + " is BAD", () -> bad("answer", x -> x.answer(0, 3, beyond)));
+            of("Terms 1", "on a DAY (0 to 399)", beyond + " is BAD", () -> refused(BAD, "answer", x -> x.answer(0, 3, beyond)));
         }
     }
 
-    private static void asOf(DrawnList x, int day, int value) {
+    private void asOf(DrawnList x, int day, int value) {
         x.asOf(day);
         due("value as of " + day, x.about(0, 4), value);
     }
 
-    private static void valuesAsOfADay() {
+    private void valuesAsOfADay() {
         of("Terms 1", "AS OF a DAY (399 at first)", "at first", () -> {
             DrawnList x = Lists.alike(1);
             due("count", x.count(3), 399);
@@ -219,7 +199,7 @@ public final class BoundaryNamesTest {
         });
     }
 
-    private static void newObject() {
+    private void newObject() {
         of("Promise 1", "An empty list", "there are no names", () -> {
             DrawnList x = new DrawnList();
             due("names", x.count(0), 0);
@@ -260,7 +240,7 @@ public final class BoundaryNamesTest {
                 refused("read", DrawnList::new, x -> x.read(s), NULL);
                 refused("write", DrawnList::new, x -> x.write(s, 0), NULL);
                 refused("copy", DrawnList::new, x -> x.copy(s, 0, s, 0, 0), NULL);
-                CASES.getRefused("get", DrawnList::new, x -> x.get(s, 0, 0), 1);
+                getRefused("get", DrawnList::new, x -> x.get(s, 0, 0), 1);
             }
         });
         of("Promise 1", "An empty list", "objects are apart", () -> {
@@ -274,7 +254,7 @@ public final class BoundaryNamesTest {
         });
     }
 
-    private static void name() {
+    private void name() {
         of("Promise 2", "A NAME more: its number.", "numbers without a gap, also behind a BAD one", () -> {
             DrawnList x = new DrawnList();
             due("first", x.name(0, 0, 1, 0), 0);
@@ -304,7 +284,7 @@ public final class BoundaryNamesTest {
         return x;
     }
 
-    private static void read() {
+    private void read() {
         String whole = "its items, four for each (as name()), as many as are whole";
         int[][] items = {{}, {1, 2, 3}, {1, 2, 3, 2}, {1, 2, 3, 2, 0, 0, 1}, {1, 2, 3, 2, 0, 0, 1, 0}};
         int[] names = {0, 0, 1, 1, 2};
@@ -341,7 +321,7 @@ public final class BoundaryNamesTest {
         });
     }
 
-    private static void readStops() {
+    private void readStops() {
         String asLong = "as long as each may be: how many";
         int[][] wrong = {{4, 0, 1, 0}, {-1, 0, 1, 0}, {0, 8, 1, 0}, {0, -1, 1, 0}, {0, 0, 0, 0}, {0, 0, 21, 0}, {0, 0, 1, 3}, {0, 0, 1, -1}};
         for (int[] w : wrong) {
@@ -369,7 +349,7 @@ public final class BoundaryNamesTest {
                 due("names", x.count(0), names + want);
             });
         }
-        of("Promise 3", "BAD; NULL.", "no such sheet is BAD", () -> bad("read", x -> x.read(-1), x -> x.read(4), x -> x.read(LOW), x -> x.read(HIGH)));
+        of("Promise 3", "BAD; NULL.", "no such sheet is BAD", () -> refused(BAD, "read", x -> x.read(-1), x -> x.read(4), x -> x.read(LOW), x -> x.read(HIGH)));
         of("Promise 3", "BAD; NULL.", "a lost one is NULL", () -> {
             refused("read", Lists::rich, x -> x.read(3), NULL);
             DrawnList x = sheet(new DrawnList(), 0, 0, 0, 1, 0);
@@ -383,7 +363,7 @@ public final class BoundaryNamesTest {
         });
     }
 
-    private static void about() {
+    private void about() {
         String words = "Of a NAME: 0 LAYER, 1 CLUSTER, 2 SIZE, 3 MARK, 4 VALUE (NONE). BAD.";
         of("Promise 4", words, "each of them", () -> {
             DrawnList x = new DrawnList();
@@ -395,8 +375,8 @@ public final class BoundaryNamesTest {
             }
         });
         of("Promise 4", words, "NONE at first", () -> due("value", Lists.alike(1).about(0, 4), NONE));
-        of("Promise 4", words, "what is 0 to 4", () -> bad("about", x -> x.about(0, -1), x -> x.about(0, 5), x -> x.about(0, LOW), x -> x.about(0, HIGH)));
-        of("Promise 4", words, "a name that there is", () -> bad("about", x -> x.about(-1, 0), x -> x.about(6, 0), x -> x.about(29, 4), x -> x.about(30, 0),
+        of("Promise 4", words, "what is 0 to 4", () -> refused(BAD, "about", x -> x.about(0, -1), x -> x.about(0, 5), x -> x.about(0, LOW), x -> x.about(0, HIGH)));
+        of("Promise 4", words, "a name that there is", () -> refused(BAD, "about", x -> x.about(-1, 0), x -> x.about(6, 0), x -> x.about(29, 4), x -> x.about(30, 0),
                 x -> x.about(LOW, 0), x -> x.about(HIGH, 0)));
         of("Promise 4", words, "the last of thirty, and no more", () -> {
             due("the last", Lists.full().about(29, 0), 1);
@@ -404,7 +384,7 @@ public final class BoundaryNamesTest {
         });
     }
 
-    private static void answer() {
+    private void answer() {
         of("Promise 5", "An ANSWER more: how many.", "the first is 1, of whichever name", () -> {
             DrawnList x = Lists.alike(2);
             due("first", x.answer(1, 0, 0), 1);
@@ -412,7 +392,7 @@ public final class BoundaryNamesTest {
             due("the same again", x.answer(0, 0, 0), 3);
             due("it will not tell", x.answer(0, NONE, 0), 4);
         });
-        of("Promise 5", "BAD: also a DAY; FULL.", "no such name is BAD", () -> bad("answer", x -> x.answer(-1, 0, 0), x -> x.answer(6, 0, 0), x -> x.answer(LOW, 0, 0),
+        of("Promise 5", "BAD: also a DAY; FULL.", "no such name is BAD", () -> refused(BAD, "answer", x -> x.answer(-1, 0, 0), x -> x.answer(6, 0, 0), x -> x.answer(LOW, 0, 0),
                 x -> x.answer(HIGH, 0, 0)));
         of("Promise 5", "BAD: also a DAY; FULL.", "BAD ahead of FULL, by each argument", () -> {
             refused("name", () -> answered(120), x -> x.answer(2, 0, 0), BAD);
@@ -432,17 +412,17 @@ public final class BoundaryNamesTest {
         });
     }
 
-    private static void asOf() {
+    private void asOf() {
         of("Promise 6", "AS OF a DAY: what it was. BAD.", "days 0 and 399", () -> {
             DrawnList x = new DrawnList();
             due("at first", x.asOf(0), 399);
             due("0", x.asOf(399), 0);
             due("399", x.asOf(399), 399);
         });
-        of("Promise 6", "AS OF a DAY: what it was. BAD.", "beyond both ends", () -> bad("asOf", x -> x.asOf(-1), x -> x.asOf(400), x -> x.asOf(LOW), x -> x.asOf(HIGH)));
+        of("Promise 6", "AS OF a DAY: what it was. BAD.", "beyond both ends", () -> refused(BAD, "asOf", x -> x.asOf(-1), x -> x.asOf(400), x -> x.asOf(LOW), x -> x.asOf(HIGH)));
     }
 
-    private static void many() {
+    private void many() {
         String words = "How many NAMES of a LAYER (what = 0), of a CLUSTER (1), of a MARK (2), all (3, of 0). BAD.";
         of("Promise 7", words, "the first and the last of each", () -> {
             DrawnList x = new DrawnList();
@@ -463,10 +443,10 @@ public final class BoundaryNamesTest {
                 due("of " + what, x.many(what, 0), 30);
             }
         });
-        of("Promise 7", words, "no such layer", () -> bad("many", x -> x.many(0, -1), x -> x.many(0, 4), x -> x.many(0, LOW), x -> x.many(0, HIGH)));
-        of("Promise 7", words, "no such cluster", () -> bad("many", x -> x.many(1, -1), x -> x.many(1, 8), x -> x.many(1, LOW), x -> x.many(1, HIGH)));
-        of("Promise 7", words, "no such mark", () -> bad("many", x -> x.many(2, -1), x -> x.many(2, 3), x -> x.many(2, LOW), x -> x.many(2, HIGH)));
-        of("Promise 7", words, "all of 0 alone", () -> bad("many", x -> x.many(3, -1), x -> x.many(3, 1), x -> x.many(3, HIGH)));
-        of("Promise 7", words, "what is 0 to 3", () -> bad("many", x -> x.many(-1, 0), x -> x.many(4, 0), x -> x.many(LOW, 0), x -> x.many(HIGH, 0)));
+        of("Promise 7", words, "no such layer", () -> refused(BAD, "many", x -> x.many(0, -1), x -> x.many(0, 4), x -> x.many(0, LOW), x -> x.many(0, HIGH)));
+        of("Promise 7", words, "no such cluster", () -> refused(BAD, "many", x -> x.many(1, -1), x -> x.many(1, 8), x -> x.many(1, LOW), x -> x.many(1, HIGH)));
+        of("Promise 7", words, "no such mark", () -> refused(BAD, "many", x -> x.many(2, -1), x -> x.many(2, 3), x -> x.many(2, LOW), x -> x.many(2, HIGH)));
+        of("Promise 7", words, "all of 0 alone", () -> refused(BAD, "many", x -> x.many(3, -1), x -> x.many(3, 1), x -> x.many(3, HIGH)));
+        of("Promise 7", words, "what is 0 to 3", () -> refused(BAD, "many", x -> x.many(-1, 0), x -> x.many(4, 0), x -> x.many(LOW, 0), x -> x.many(HIGH, 0)));
     }
 }

@@ -1,13 +1,10 @@
 /** Boundary cases of plans: the document's part 2 and promises 8 to 17, sentence by sentence. */
-public final class BoundaryPlansTest {
-    private static final int LOW = Integer.MIN_VALUE, HIGH = Integer.MAX_VALUE;
-    private static final int NONE = -1, BAD = -2, NOT = -3, FULL = -4;
-    private static final long LONG_BAD = Long.MIN_VALUE + 2, LONG_NOT = Long.MIN_VALUE + 3;
-    private static final int ALL_THIRTY = (1 << 30) - 1;
-
-    private static final Cases CASES = new Cases("BoundaryPlansTest");
-
+public final class BoundaryPlansTest extends Cases {
     public static void main(String[] args) {
+        new BoundaryPlansTest().run();
+    }
+
+    void all() {
         fourPlans();
         eachOfFourPlans();
         upToTwentyBytes();
@@ -29,56 +26,31 @@ public final class BoundaryPlansTest {
         width();
         lotsRefused();
         makes();
-        CASES.close();
     }
 
-    private static void of(String place, String words, String edge, Runnable body) {
-        CASES.of(place, words, edge, body);
-    }
-
-    private static void due(String what, long got, long want) {
-        CASES.due(what, got, want);
-    }
-
-    private static void refused(String what, Cases.Maker maker, Cases.Call call, long answer) {
-        CASES.refused(what, maker, call, answer);
-    }
-
-    /** Calls that are BAD on the object of everything. */
-    private static void bad(long answer, String what, Cases.Call... calls) {
-        for (int k = 0; k < calls.length; k++) {
-            refused(what + ", call " + k, Lists::rich, calls[k], answer);
-        }
-    }
-
-    /** The object of everything, its plan 0 one that cannot be. */
-    private static DrawnList without() {
-        return Lists.with(Lists.rich(), "a7");
-    }
-
-    private static void share(DrawnList x, int name, long above, long below) {
+    private void share(DrawnList x, int name, long above, long below) {
         due("share of " + name + ", above", x.share(0, name, 0), above);
         due("share of " + name + ", below", x.share(0, name, 1), below);
     }
 
-    private static void both(DrawnList x, int a, int b, long above, long below) {
+    private void both(DrawnList x, int a, int b, long above, long below) {
         due("both " + a + " and " + b + ", above", x.both(0, a, b, 0), above);
         due("both " + a + " and " + b + ", below", x.both(0, a, b, 1), below);
         due("both the other way round", x.both(0, b, a, 0), above);
     }
 
-    private static void width(DrawnList x, int least, int most) {
+    private void width(DrawnList x, int least, int most) {
         due("least width", x.width(0, 0), least);
         due("most width", x.width(0, 1), most);
     }
 
-    private static void makes(DrawnList x, int want, int... draws) {
+    private void makes(DrawnList x, int want, int... draws) {
         for (int draw : draws) {
             due("makes " + draw, x.makes(0, draw), want);
         }
     }
 
-    private static void fourPlans() {
+    private void fourPlans() {
         String words = "PLANS 0 .. 3 are texts of up to 20 bytes";
         of("Terms 2", words, "the first and the last, apart", () -> {
             DrawnList x = Lists.alike(3);
@@ -93,9 +65,9 @@ public final class BoundaryPlansTest {
         });
         for (int beyond : new int[] {-1, 4, LOW, HIGH}) {
             of("Terms 2", words, "there is no plan " + beyond, () -> {
-                bad(BAD, "plan", x -> x.type(beyond, 'a'), x -> x.wipe(beyond), x -> x.fault(beyond), x -> x.can(beyond),
+                refused(BAD, "plan", x -> x.type(beyond, 'a'), x -> x.wipe(beyond), x -> x.fault(beyond), x -> x.can(beyond),
                         x -> x.width(beyond, 0), x -> x.lots(beyond, 1), x -> x.makes(beyond, 0));
-                bad(LONG_BAD, "plan", x -> x.draws(beyond), x -> x.share(beyond, 0, 0), x -> x.both(beyond, 0, 1, 0));
+                refused(LONG_BAD, "plan", x -> x.draws(beyond), x -> x.share(beyond, 0, 0), x -> x.both(beyond, 0, 1, 0));
             });
         }
     }
@@ -105,7 +77,7 @@ public final class BoundaryPlansTest {
     }
 
     /** The call is taken of plan 3 and BAD beyond both ends. */
-    private static void plansOf(String place, String words, long answer, PlanCall call) {
+    private void plansOf(String place, String words, long answer, PlanCall call) {
         of(place, words, "plans -1 and 4 are BAD, 3 is not", () -> {
             for (int beyond : new int[] {-1, 4, LOW, HIGH}) {
                 refused("plan " + beyond, Lists::rich, x -> call.on(x, beyond), answer);
@@ -114,7 +86,7 @@ public final class BoundaryPlansTest {
         });
     }
 
-    private static void eachOfFourPlans() {
+    private void eachOfFourPlans() {
         plansOf("Promise 8", "A byte (0 to 255) comes behind a PLAN: how many. BAD; FULL.", BAD, (x, plan) -> x.type(plan, 'a'));
         plansOf("Promise 9", "A PLAN is empty: how many bytes it had. BAD.", BAD, DrawnList::wipe);
         plansOf("Promise 10", "The FAULT of a PLAN; NONE. BAD.", BAD, DrawnList::fault);
@@ -136,7 +108,7 @@ public final class BoundaryPlansTest {
         return x;
     }
 
-    private static void upToTwentyBytes() {
+    private void upToTwentyBytes() {
         String words = "PLANS 0 .. 3 are texts of up to 20 bytes";
         of("Terms 2", words, "the twentieth byte is taken", () -> {
             DrawnList x = typed(19);
@@ -155,7 +127,7 @@ public final class BoundaryPlansTest {
         });
     }
 
-    private static void waysOfAllAndLayers() {
+    private void waysOfAllAndLayers() {
         String all = "a n: n of all NAMES, each set of n alike likely.";
         of("Terms 2", all, "one, all but one, all", () -> {
             DrawnList x = Lists.with(Lists.alike(5), "a1");
@@ -189,7 +161,7 @@ public final class BoundaryPlansTest {
         });
     }
 
-    private static void waysOfEach() {
+    private void waysOfEach() {
         String words = "e n: each n-th: a first one 0 to n - 1, each alike likely, and all NAMES whose number modulo n is that.";
         of("Terms 2", words, "the first of the first ones and the last", () -> {
             DrawnList x = Lists.with(Lists.alike(7), "e3");
@@ -233,7 +205,7 @@ public final class BoundaryPlansTest {
         });
     }
 
-    private static void waysBySizes() {
+    private void waysBySizes() {
         String cut = "I is all SIZES by n, cut";
         of("Terms 2", cut, "ten and eleven by five, fourteen and fifteen", () -> {
             due("10", Lists.with(Lists.sized(4, 6), "z5").draws(0), 2);
@@ -323,7 +295,7 @@ public final class BoundaryPlansTest {
         });
     }
 
-    private static void waysInTwoSteps() {
+    private void waysInTwoSteps() {
         String have = "so many of the CLUSTERS that have NAMES, each set alike likely";
         of("Terms 2", have, "those without names do not count", () -> {
             DrawnList x = Lists.with(Lists.clustered(0, 1, 0, 0, 1, 0, 0, 1), "t2x1");
@@ -394,11 +366,11 @@ public final class BoundaryPlansTest {
         });
     }
 
-    private static void fault(String text, int want) {
+    private void fault(String text, int want) {
         due("fault of '" + text + "'", Lists.planned(text).fault(0), want);
     }
 
-    private static void figures() {
+    private void figures() {
         String words = "Numbers are of one or two figures.";
         for (String letter : new String[] {"a", "e", "z"}) {
             of("Terms 2", words, "none, one, two, three of " + letter, () -> {
@@ -448,7 +420,7 @@ public final class BoundaryPlansTest {
         });
     }
 
-    private static void faults() {
+    private void faults() {
         String words = "The FAULT is the place of the first byte with which it cannot go on (of an empty text 0).";
         of("Terms 2", words, "an empty text, a new one and a wiped one", () -> {
             DrawnList x = new DrawnList();
@@ -518,11 +490,11 @@ public final class BoundaryPlansTest {
         });
     }
 
-    private static void can(DrawnList x, String text, int want) {
+    private void can(DrawnList x, String text, int want) {
         due("can " + text + " be", Lists.with(x, text).can(0), want);
     }
 
-    private static void canBeOfAllAndLayers() {
+    private void canBeOfAllAndLayers() {
         of("Terms 2", "A PLAN CAN BE, if it has no FAULT", "with a fault behind what could be", () -> {
             DrawnList x = Lists.full();
             can(x, "a3", 1);
@@ -581,7 +553,7 @@ public final class BoundaryPlansTest {
         });
     }
 
-    private static void canBeOfOthers() {
+    private void canBeOfOthers() {
         of("Terms 2", "e: n is 1 to 30", "0, 1, 30, 31", () -> {
             for (DrawnList x : new DrawnList[] {new DrawnList(), Lists.alike(2), Lists.full()}) {
                 can(x, "e0", 0);
@@ -661,7 +633,7 @@ public final class BoundaryPlansTest {
         return Lists.with(x, text).draws(0);
     }
 
-    private static void draws() {
+    private void draws() {
         String words = "DRAWS of a PLAN are how many ways there are: a, l: sets; e: n; z: I; t: the ways to take CLUSTERS, of each the ways to take NAMES, together.";
         of("Terms 2", words, "a: one, half, all of thirty", () -> {
             due("a1", drawsOf(Lists.full(), "a1"), 30);
@@ -697,7 +669,7 @@ public final class BoundaryPlansTest {
         });
     }
 
-    private static void shares() {
+    private void shares() {
         String words = "SHARE of a NAME: of all ways (as likely as told) those with it in the DRAW; of two NAMES: those with both.";
         of("Terms 2", words, "never and always", () -> {
             DrawnList x = Lists.with(Lists.layered(2, 2), "l0,2,0,0");
@@ -723,7 +695,7 @@ public final class BoundaryPlansTest {
         });
     }
 
-    private static void lots(DrawnList x, String text, int[] seeds, int[] draws) {
+    private void lots(DrawnList x, String text, int[] seeds, int[] draws) {
         Lists.plan(x, 0, text);
         for (int k = 0; k < seeds.length; k++) {
             due("lots of " + text + " by " + seeds[k], x.lots(0, seeds[k]), draws[k]);
@@ -731,7 +703,7 @@ public final class BoundaryPlansTest {
     }
 
     /** Draws by a program of their own, written from the document's words. */
-    private static void lots() {
+    private void lots() {
         int[] seeds = {0, 1, 2, 3, -1, -2, -7, HIGH, LOW, 12345678, -987654321};
         String lot = "SEED becomes 1103515245 SEED and 12345, as ints that wrap; its upper 16 bits as a number from 0 on, modulo k.";
         of("Terms 2", lot, "seeds 0, least, greatest, below 0", () -> {
@@ -773,7 +745,7 @@ public final class BoundaryPlansTest {
                 lots(Lists.clustered(2, 0, 2, 3, 3), "t2x2", seeds, new int[] {83, 780, 643, 652, 83, 108, 15, 99, 15, 108, 643}));
     }
 
-    private static void typeAndWipe() {
+    private void typeAndWipe() {
         String type = "A byte (0 to 255) comes behind a PLAN: how many. BAD; FULL.";
         of("Promise 8", type, "0 and 255 are taken", () -> {
             DrawnList x = new DrawnList();
@@ -782,7 +754,7 @@ public final class BoundaryPlansTest {
             due("bytes", x.count(4), 2);
         });
         for (int beyond : new int[] {-1, 256, LOW, HIGH, 256 + 'a', 'a' - 256}) {
-            of("Promise 8", type, beyond + " is BAD", () -> bad(BAD, "type", x -> x.type(0, beyond)));
+            of("Promise 8", type, beyond + " is BAD", () -> refused(BAD, "type", x -> x.type(0, beyond)));
         }
         of("Promise 8", type, "BAD ahead of FULL", () -> {
             refused("byte", () -> typed(20), x -> x.type(0, 256), BAD);
@@ -806,7 +778,7 @@ public final class BoundaryPlansTest {
         });
     }
 
-    private static void faultAndCan() {
+    private void faultAndCan() {
         of("Promise 10", "The FAULT of a PLAN; NONE. BAD.", "byte by byte", () -> {
             DrawnList x = new DrawnList();
             int[] want = {0, 1, 2, 3, 4, 5, 6, 7, NONE, NONE, 9};
@@ -827,7 +799,7 @@ public final class BoundaryPlansTest {
         of("Promise 11", "Whether a PLAN CAN BE: 1, 0. BAD.", "an empty one cannot", () -> due("can", Lists.full().can(0), 0));
     }
 
-    private static void drawsAndShare() {
+    private void drawsAndShare() {
         String draws = "DRAWS of a PLAN. BAD; NOT: it cannot be. (As the least long.)";
         of("Promise 12", draws, "NOT of each kind", () -> {
             for (String text : new String[] {"", "a", "a7", "a0", "l0,0,0,0", "l3,0,0,0", "e0", "e31", "z0", "z23", "t0x1", "t5x1", "t1x0", "q1"}) {
@@ -836,38 +808,38 @@ public final class BoundaryPlansTest {
         });
         String share = "SHARE of a NAME: above (what = 0), below (1). BAD; NOT: the PLAN cannot be. (As the least long.)";
         of("Promise 13", share, "a name that there is", () -> {
-            bad(LONG_BAD, "share", x -> x.share(0, -1, 0), x -> x.share(0, 6, 0), x -> x.share(0, LOW, 0), x -> x.share(0, HIGH, 0));
+            refused(LONG_BAD, "share", x -> x.share(0, -1, 0), x -> x.share(0, 6, 0), x -> x.share(0, LOW, 0), x -> x.share(0, HIGH, 0));
             due("the last", Lists.rich().share(0, 5, 1), 2);
         });
         of("Promise 13", share, "what is 0 or 1", () ->
-                bad(LONG_BAD, "share", x -> x.share(0, 0, -1), x -> x.share(0, 0, 2), x -> x.share(0, 0, LOW), x -> x.share(0, 0, HIGH)));
-        of("Promise 13", share, "NOT", () -> refused("share", BoundaryPlansTest::without, x -> x.share(0, 0, 0), LONG_NOT));
+                refused(LONG_BAD, "share", x -> x.share(0, 0, -1), x -> x.share(0, 0, 2), x -> x.share(0, 0, LOW), x -> x.share(0, 0, HIGH)));
+        of("Promise 13", share, "NOT", () -> refused("share", Lists::without, x -> x.share(0, 0, 0), LONG_NOT));
         of("Promise 13", share, "BAD ahead of NOT, by each argument", () -> {
-            refused("name", BoundaryPlansTest::without, x -> x.share(0, 6, 0), LONG_BAD);
-            refused("what", BoundaryPlansTest::without, x -> x.share(0, 0, 2), LONG_BAD);
+            refused("name", Lists::without, x -> x.share(0, 6, 0), LONG_BAD);
+            refused("what", Lists::without, x -> x.share(0, 0, 2), LONG_BAD);
             refused("no names at all", DrawnList::new, x -> x.share(0, 0, 0), LONG_BAD);
         });
     }
 
-    private static void both() {
+    private void both() {
         String words = "SHARE of two unlike NAMES likewise. BAD; NOT.";
-        of("Promise 14", words, "like names are BAD", () -> bad(LONG_BAD, "both", x -> x.both(0, 0, 0, 0), x -> x.both(0, 5, 5, 1)));
+        of("Promise 14", words, "like names are BAD", () -> refused(LONG_BAD, "both", x -> x.both(0, 0, 0, 0), x -> x.both(0, 5, 5, 1)));
         of("Promise 14", words, "names that there are", () -> {
-            bad(LONG_BAD, "both", x -> x.both(0, -1, 0, 0), x -> x.both(0, 6, 0, 0), x -> x.both(0, 0, -1, 0), x -> x.both(0, 0, 6, 0),
+            refused(LONG_BAD, "both", x -> x.both(0, -1, 0, 0), x -> x.both(0, 6, 0, 0), x -> x.both(0, 0, -1, 0), x -> x.both(0, 0, 6, 0),
                     x -> x.both(0, LOW, HIGH, 0));
             due("first and last", Lists.rich().both(0, 0, 5, 0), 1);
         });
-        of("Promise 14", words, "what is 0 or 1", () -> bad(LONG_BAD, "both", x -> x.both(0, 0, 1, -1), x -> x.both(0, 0, 1, 2)));
-        of("Promise 14", words, "NOT", () -> refused("both", BoundaryPlansTest::without, x -> x.both(0, 0, 1, 0), LONG_NOT));
+        of("Promise 14", words, "what is 0 or 1", () -> refused(LONG_BAD, "both", x -> x.both(0, 0, 1, -1), x -> x.both(0, 0, 1, 2)));
+        of("Promise 14", words, "NOT", () -> refused("both", Lists::without, x -> x.both(0, 0, 1, 0), LONG_NOT));
         of("Promise 14", words, "BAD ahead of NOT, by each argument", () -> {
-            refused("like names", BoundaryPlansTest::without, x -> x.both(0, 1, 1, 0), LONG_BAD);
-            refused("first name", BoundaryPlansTest::without, x -> x.both(0, 6, 1, 0), LONG_BAD);
-            refused("second name", BoundaryPlansTest::without, x -> x.both(0, 1, 6, 0), LONG_BAD);
-            refused("what", BoundaryPlansTest::without, x -> x.both(0, 0, 1, 2), LONG_BAD);
+            refused("like names", Lists::without, x -> x.both(0, 1, 1, 0), LONG_BAD);
+            refused("first name", Lists::without, x -> x.both(0, 6, 1, 0), LONG_BAD);
+            refused("second name", Lists::without, x -> x.both(0, 1, 6, 0), LONG_BAD);
+            refused("what", Lists::without, x -> x.both(0, 0, 1, 2), LONG_BAD);
         });
     }
 
-    private static void width() {
+    private void width() {
         String words = "How many NAMES there are in a DRAW at the least (what = 0), at the most (1), over all ways. BAD; NOT.";
         of("Promise 15", words, "as many in each draw", () -> {
             width(Lists.with(Lists.full(), "a1"), 1, 1);
@@ -890,17 +862,17 @@ public final class BoundaryPlansTest {
             width(Lists.with(Lists.clustered(30), "t1x30"), 30, 30);
             width(Lists.with(Lists.clustered(30), "t1x29"), 29, 29);
         });
-        of("Promise 15", words, "what is 0 or 1", () -> bad(BAD, "width", x -> x.width(0, -1), x -> x.width(0, 2), x -> x.width(0, LOW), x -> x.width(0, HIGH)));
+        of("Promise 15", words, "what is 0 or 1", () -> refused(BAD, "width", x -> x.width(0, -1), x -> x.width(0, 2), x -> x.width(0, LOW), x -> x.width(0, HIGH)));
         of("Promise 15", words, "NOT, and BAD ahead of it", () -> {
-            refused("NOT", BoundaryPlansTest::without, x -> x.width(0, 0), NOT);
-            refused("NOT", BoundaryPlansTest::without, x -> x.width(0, 1), NOT);
-            refused("BAD", BoundaryPlansTest::without, x -> x.width(0, 2), BAD);
+            refused("NOT", Lists::without, x -> x.width(0, 0), NOT);
+            refused("NOT", Lists::without, x -> x.width(0, 1), NOT);
+            refused("BAD", Lists::without, x -> x.width(0, 2), BAD);
         });
     }
 
-    private static void lotsRefused() {
+    private void lotsRefused() {
         of("Promise 16", "A DRAW BY LOTS. BAD; NOT. (As NAMES are 30 at most, it is not below 0.)", "NOT", () ->
-                refused("lots", BoundaryPlansTest::without, x -> x.lots(0, 1), NOT));
+                refused("lots", Lists::without, x -> x.lots(0, 1), NOT));
         of("Promise 16", "A DRAW BY LOTS. BAD; NOT. (As NAMES are 30 at most, it is not below 0.)", "the greatest draw", () ->
                 due("lots", Lists.with(Lists.full(), "e1").lots(0, -1), ALL_THIRTY));
         of("Promise 16", "A DRAW BY LOTS. BAD; NOT. (As NAMES are 30 at most, it is not below 0.)", "a seed is not kept from call to call", () -> {
@@ -911,11 +883,11 @@ public final class BoundaryPlansTest {
         });
     }
 
-    private static void makes() {
+    private void makes() {
         String words = "Whether a PLAN can make a DRAW: 1, 0. BAD: also bits of NAMES that there are not; NOT.";
         of("Promise 17", words, "all names, and a bit more", () -> {
             makes(Lists.with(Lists.alike(6), "a6"), 1, 0b111111);
-            bad(BAD, "makes", x -> x.makes(0, 0b1000000), x -> x.makes(0, 0b1000011), x -> x.makes(0, 1 << 29), x -> x.makes(0, 1 << 30),
+            refused(BAD, "makes", x -> x.makes(0, 0b1000000), x -> x.makes(0, 0b1000011), x -> x.makes(0, 1 << 29), x -> x.makes(0, 1 << 30),
                     x -> x.makes(0, LOW), x -> x.makes(0, HIGH), x -> x.makes(0, -1));
         });
         of("Promise 17", words, "the thirtieth bit, and the next ones", () -> {
@@ -937,9 +909,9 @@ public final class BoundaryPlansTest {
             makes(Lists.with(Lists.layered(2), "l1,0,0,0"), 0, 0);
         });
         of("Promise 17", words, "NOT, and BAD ahead of it", () -> {
-            refused("NOT", BoundaryPlansTest::without, x -> x.makes(0, 1), NOT);
-            refused("NOT, a draw of none", BoundaryPlansTest::without, x -> x.makes(0, 0), NOT);
-            refused("BAD", BoundaryPlansTest::without, x -> x.makes(0, 64), BAD);
+            refused("NOT", Lists::without, x -> x.makes(0, 1), NOT);
+            refused("NOT, a draw of none", Lists::without, x -> x.makes(0, 0), NOT);
+            refused("BAD", Lists::without, x -> x.makes(0, 64), BAD);
         });
     }
 }

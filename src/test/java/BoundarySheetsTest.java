@@ -1,14 +1,10 @@
 /** Boundary cases of sheets, of count and digest: the document's findings and promises 28 to 35, sentence by sentence. */
-public final class BoundarySheetsTest {
-    private static final int LOW = Integer.MIN_VALUE, HIGH = Integer.MAX_VALUE;
-    private static final int NONE = -1, BAD = -2, FULL = -4;
-    private static final int NULL = -11, INDEX = -12, CAST = -13, STORE = -14, SIZE = -15;
-    private static final long LONG_NOT = Long.MIN_VALUE + 3;
-    private static final int ALL_THIRTY = (1 << 30) - 1;
-
-    private static final Cases CASES = new Cases("BoundarySheetsTest");
-
+public final class BoundarySheetsTest extends Cases {
     public static void main(String[] args) {
+        new BoundarySheetsTest().run();
+    }
+
+    void all() {
         fourSheets();
         forms();
         items();
@@ -25,32 +21,6 @@ public final class BoundarySheetsTest {
         latestFinding();
         digest();
         constants();
-        CASES.close();
-    }
-
-    private static void of(String place, String words, String edge, Runnable body) {
-        CASES.of(place, words, edge, body);
-    }
-
-    private static void due(String what, long got, long want) {
-        CASES.due(what, got, want);
-    }
-
-    private static void refused(String what, Cases.Maker maker, Cases.Call call, long answer) {
-        CASES.refused(what, maker, call, answer);
-    }
-
-    private static void refused(long answer, String what, Cases.Call... calls) {
-        for (int k = 0; k < calls.length; k++) {
-            refused(what + ", call " + k, Lists::rich, calls[k], answer);
-        }
-    }
-
-    /** Of the object of everything: sheets 0, 1, 2 of forms 0, 1, 2 have five items each, sheet 3 is lost. */
-    private static void getRefused(int finding, String what, Cases.Call... calls) {
-        for (int k = 0; k < calls.length; k++) {
-            CASES.getRefused(what + ", call " + k, Lists::rich, calls[k], finding);
-        }
     }
 
     private static DrawnList sheet(int form, int n) {
@@ -59,13 +29,13 @@ public final class BoundarySheetsTest {
         return x;
     }
 
-    private static void items(DrawnList x, int s, int form, int... want) {
+    private void items(DrawnList x, int s, int form, int... want) {
         for (int i = 0; i < want.length; i++) {
             due("item " + i + " of " + s, x.get(s, form, i), want[i]);
         }
     }
 
-    private static void fourSheets() {
+    private void fourSheets() {
         String words = "SHEETS 0 .. 3 are LOST (at first) or a row of a FORM";
         of("Terms 1", words, "the first and the last, apart", () -> {
             DrawnList x = new DrawnList();
@@ -95,7 +65,7 @@ public final class BoundarySheetsTest {
         });
     }
 
-    private static void forms() {
+    private void forms() {
         String words = "a row of a FORM: 0 bytes, 1 shorts, 2 ints";
         for (int beyond : new int[] {-1, 3, LOW, HIGH}) {
             of("Terms 1", words, "there is no form " + beyond, () -> {
@@ -121,7 +91,7 @@ public final class BoundarySheetsTest {
         }
     }
 
-    private static void items() {
+    private void items() {
         String words = "of 0 to 90 items (0 at first)";
         for (int k = 0; k < 3; k++) {
             int form = k;
@@ -170,7 +140,7 @@ public final class BoundarySheetsTest {
         });
     }
 
-    private static void findings() {
+    private void findings() {
         String words = "FINDINGS (answers -10 less the number; they change nothing but count() 8): 1 NULL: the SHEET is LOST; 2 INDEX: there is no such item; "
                 + "3 CAST: it has another FORM; 4 STORE: unlike FORMS; 5 SIZE: below 0.";
         of("Terms 1", words, "each of the five", () -> {
@@ -196,7 +166,7 @@ public final class BoundarySheetsTest {
         });
     }
 
-    private static void sheet() {
+    private void sheet() {
         String words = "A SHEET is a new row of a FORM with n items: n. BAD: SHEET, FORM, above 90; SIZE.";
         of("Promise 28", words, "a row in a row's place, of another form and length", () -> {
             DrawnList x = Lists.rich();
@@ -218,7 +188,7 @@ public final class BoundarySheetsTest {
         });
     }
 
-    private static void lose() {
+    private void lose() {
         String words = "It is LOST: how many items it had. BAD; NULL.";
         of("Promise 29", words, "of 0, 1, 90 items", () -> {
             due("0", sheet(0, 0).lose(0), 0);
@@ -241,7 +211,7 @@ public final class BoundarySheetsTest {
         });
     }
 
-    private static void put() {
+    private void put() {
         String words = "BAD; NULL; CAST; INDEX.";
         of("Promise 30", words, "the first item and the last, and beyond them", () -> {
             DrawnList x = Lists.rich();
@@ -267,12 +237,12 @@ public final class BoundarySheetsTest {
         });
     }
 
-    private static void get() {
+    private void get() {
         String words = "Item i of it. BAD: the least int; so are NULL, CAST, INDEX (count() 8 tells).";
         of("Promise 31", words, "the first item and the last, and beyond them", () -> {
             items(Lists.rich(), 1, 1, 10, 11, 12, 13, 14);
             getRefused(2, "INDEX", x -> x.get(1, 1, -1), x -> x.get(1, 1, 5), x -> x.get(1, 1, 90), x -> x.get(1, 1, LOW), x -> x.get(1, 1, HIGH));
-            CASES.getRefused("of an empty row", () -> sheet(0, 0), x -> x.get(0, 0, 0), 2);
+            getRefused("of an empty row", () -> sheet(0, 0), x -> x.get(0, 0, 0), 2);
         });
         of("Promise 31", words, "as of each other form", () ->
                 getRefused(3, "CAST", x -> x.get(0, 1, 0), x -> x.get(0, 2, 0), x -> x.get(1, 0, 0), x -> x.get(1, 2, 0), x -> x.get(2, 0, 0), x -> x.get(2, 1, 0)));
@@ -304,7 +274,7 @@ public final class BoundarySheetsTest {
         return x;
     }
 
-    private static void copy() {
+    private void copy() {
         String words = "n items of SHEET s, from i on, come to SHEET t (perhaps s, as they were), from j on: 1.";
         of("Promise 32", words, "all, one, none", () -> {
             DrawnList x = two();
@@ -346,7 +316,7 @@ public final class BoundarySheetsTest {
         });
     }
 
-    private static void copyIndex() {
+    private void copyIndex() {
         String words = "INDEX: below 0, not so many.";
         int[][] taken = {{5, 0, 0}, {0, 5, 0}, {5, 5, 0}, {4, 0, 1}, {0, 4, 1}, {0, 0, 5}, {1, 1, 4}};
         for (int[] t : taken) {
@@ -379,7 +349,7 @@ public final class BoundarySheetsTest {
         });
     }
 
-    private static void copyRefused() {
+    private void copyRefused() {
         String words = "BAD: the SHEETS; NULL: s, t; STORE; INDEX: below 0, not so many.";
         of("Promise 32", words, "NULL by s, by t, by both", () ->
                 refused(NULL, "copy", x -> x.copy(3, 0, 0, 0, 0), x -> x.copy(0, 0, 3, 0, 0), x -> x.copy(3, 0, 3, 0, 0)));
@@ -392,7 +362,7 @@ public final class BoundarySheetsTest {
         of("Promise 32", words, "STORE ahead of INDEX", () -> refused(STORE, "copy", x -> x.copy(0, -1, 1, 0, 1), x -> x.copy(0, 0, 1, 0, 6), x -> x.copy(2, 0, 1, 0, -1)));
     }
 
-    private static void write() {
+    private void write() {
         String words = "NAMES of a DRAW, by numbers, come to a SHEET from item 0 on (the lowest bits), as many as there are items: how many. BAD; NULL.";
         of("Promise 33", words, "as many as items, one more, one less", () -> {
             DrawnList x = Lists.rich();
@@ -446,7 +416,7 @@ public final class BoundarySheetsTest {
         });
     }
 
-    private static void count() {
+    private void count() {
         String words = "0 NAMES, 1 those with a VALUE, 2 ANSWERS, 3 AS OF, 4 to 7 bytes of PLANS, 8 the number of the latest FINDING (0 before any), 9 CLUSTERS that have NAMES. BAD.";
         of("Promise 34", words, "at first", () -> {
             int[] want = {0, 0, 0, 399, 0, 0, 0, 0, 0, 0};
@@ -495,7 +465,7 @@ public final class BoundarySheetsTest {
         });
     }
 
-    private static void latestFinding() {
+    private void latestFinding() {
         String words = "8 the number of the latest FINDING (0 before any)";
         of("Promise 34", words, "one after the other, and none between", () -> {
             DrawnList x = Lists.rich();
@@ -549,7 +519,7 @@ public final class BoundarySheetsTest {
         return h;
     }
 
-    private static void digest() {
+    private void digest() {
         String words = "h is 17; h becomes 31 h and each of: count() 0 to 7, 9";
         of("Promise 35", words, "of nothing", () -> {
             long h = 17;
@@ -584,7 +554,7 @@ public final class BoundarySheetsTest {
         });
     }
 
-    private static void constants() {
+    private void constants() {
         of("The public face", "public static final int NONE = -1, BAD = -2, NOT = -3, FULL = -4;", "as they stand", () -> {
             due("NONE", DrawnList.NONE, -1);
             due("BAD", DrawnList.BAD, -2);

@@ -1,13 +1,10 @@
 /** Boundary cases of sums: the document's part 3 and promises 18 to 22, sentence by sentence. */
-public final class BoundarySumsTest {
-    private static final int LOW = Integer.MIN_VALUE, HIGH = Integer.MAX_VALUE;
-    private static final int NONE = -1, BAD = -2, NOT = -3;
-    private static final long LONG_BAD = Long.MIN_VALUE + 2, LONG_NOT = Long.MIN_VALUE + 3;
-    private static final int ALL_THIRTY = (1 << 30) - 1;
-
-    private static final Cases CASES = new Cases("BoundarySumsTest");
-
+public final class BoundarySumsTest extends Cases {
     public static void main(String[] args) {
+        new BoundarySumsTest().run();
+    }
+
+    void all() {
         sums();
         greatestSums();
         silentOnes();
@@ -20,46 +17,28 @@ public final class BoundarySumsTest {
         wider();
         widerRefused();
         edgeRefused();
-        CASES.close();
     }
 
-    private static void of(String place, String words, String edge, Runnable body) {
-        CASES.of(place, words, edge, body);
-    }
-
-    private static void due(String what, long got, long want) {
-        CASES.due(what, got, want);
-    }
-
-    private static void refused(String what, Cases.Maker maker, Cases.Call call, long answer) {
-        CASES.refused(what, maker, call, answer);
-    }
-
-    /** The object of everything, its plan 0 one that cannot be. */
-    private static DrawnList without() {
-        return Lists.with(Lists.rich(), "a7");
-    }
-
-    private static void sum(DrawnList x, int draw, long above, long below) {
+    private void sum(DrawnList x, int draw, long above, long below) {
         due("sum by " + draw + ", above", x.sum(0, draw, 0), above);
         due("sum by " + draw + ", below", x.sum(0, draw, 1), below);
     }
 
-    private static void spread(DrawnList x, long above, long below) {
+    private void spread(DrawnList x, long above, long below) {
         due("spread, above", x.spread(0, 0), above);
         due("spread, below", x.spread(0, 1), below);
     }
 
-    private static void noSpread(DrawnList x, String text) {
+    private void noSpread(DrawnList x, String text) {
         due("spread of " + text, Lists.with(x, text).spread(0, 0), LONG_NOT);
     }
 
-    private static void edges(DrawnList x, long least, long greatest) {
+    private void edges(DrawnList x, long least, long greatest) {
         due("least sum", x.edge(0, 0), least);
         due("greatest sum", x.edge(0, 1), greatest);
     }
 
-    private static void sums() {
+    private void sums() {
         String words = "The SUM by a DRAW and a PLAN: of its NAMES with a VALUE: VALUE by SHARE, together; a FRACTION.";
         of("Terms 3", words, "of no names", () -> sum(Lists.with(Lists.told(Lists.alike(2), 5, 6), "e3"), 0, 0, 1));
         of("Terms 3", words, "of none with a value", () -> sum(Lists.with(Lists.alike(2), "a2"), 3, 0, 1));
@@ -92,7 +71,7 @@ public final class BoundarySumsTest {
         return Lists.with(x, "z8");
     }
 
-    private static void greatestSums() {
+    private void greatestSums() {
         String words = "VALUE by SHARE, together; a FRACTION.";
         of("Terms 3", words, "the least share", () -> {
             DrawnList x = new DrawnList();
@@ -122,7 +101,7 @@ public final class BoundarySumsTest {
         });
     }
 
-    private static void silentOnes() {
+    private void silentOnes() {
         String words = "(NAMES without one count nothing: they are SILENT.)";
         of("Terms 3", words, "told nothing, will not tell, has not told yet", () -> {
             DrawnList x = Lists.with(Lists.alike(4), "a4");
@@ -142,7 +121,7 @@ public final class BoundarySumsTest {
         of("Terms 3", words, "the value 0 is one", () -> due("silent", Lists.told(Lists.alike(1), 0).silent(1), 0));
     }
 
-    private static void whereSpreads() {
+    private void whereSpreads() {
         String words = "if all NAMES (of LAYERS of which some are drawn) have VALUES";
         of("Terms 3", words, "a: all have, the first lacks, the last lacks", () -> {
             DrawnList x = Lists.told(Lists.alike(3), 1, 2, 4);
@@ -183,7 +162,7 @@ public final class BoundarySumsTest {
         });
     }
 
-    private static void spreads() {
+    private void spreads() {
         String words = "the mean, over all ways, of the squares of the SUMS less their mean; a FRACTION";
         of("Terms 3", words, "a single name", () -> spread(Lists.with(Lists.told(Lists.alike(1), 7), "a1"), 0, 1));
         of("Terms 3", words, "a single name of a layer, beside another layer", () ->
@@ -221,7 +200,7 @@ public final class BoundarySumsTest {
         });
     }
 
-    private static void edges() {
+    private void edges() {
         String words = "EDGES of a PLAN e or z: the least and the greatest SUM over all ways, as they have VALUES: rounded down.";
         of("Terms 3", words, "none has a value", () -> {
             edges(Lists.with(Lists.alike(3), "e2"), 0, 0);
@@ -269,22 +248,16 @@ public final class BoundarySumsTest {
         });
     }
 
-    private static void bad(String what, Cases.Call... calls) {
-        for (int k = 0; k < calls.length; k++) {
-            refused(what + ", call " + k, Lists::rich, calls[k], LONG_BAD);
-        }
-    }
-
-    private static void sumRefused() {
+    private void sumRefused() {
         String words = "SUM by a DRAW: above, below. BAD: also a DRAW the PLAN cannot make; NOT: the PLAN cannot be. (As the least long.)";
-        of("Promise 18", words, "no such plan", () -> bad("sum", x -> x.sum(-1, 7, 0), x -> x.sum(4, 7, 0), x -> x.sum(LOW, 7, 0), x -> x.sum(HIGH, 7, 0)));
-        of("Promise 18", words, "names that there are not", () -> bad("sum", x -> x.sum(0, 64, 0), x -> x.sum(0, 64 + 3, 0), x -> x.sum(0, LOW, 0), x -> x.sum(0, -1, 0)));
-        of("Promise 18", words, "what is 0 or 1", () -> bad("sum", x -> x.sum(0, 7, -1), x -> x.sum(0, 7, 2), x -> x.sum(0, 7, LOW), x -> x.sum(0, 7, HIGH)));
+        of("Promise 18", words, "no such plan", () -> refused(LONG_BAD, "sum", x -> x.sum(-1, 7, 0), x -> x.sum(4, 7, 0), x -> x.sum(LOW, 7, 0), x -> x.sum(HIGH, 7, 0)));
+        of("Promise 18", words, "names that there are not", () -> refused(LONG_BAD, "sum", x -> x.sum(0, 64, 0), x -> x.sum(0, 64 + 3, 0), x -> x.sum(0, LOW, 0), x -> x.sum(0, -1, 0)));
+        of("Promise 18", words, "what is 0 or 1", () -> refused(LONG_BAD, "sum", x -> x.sum(0, 7, -1), x -> x.sum(0, 7, 2), x -> x.sum(0, 7, LOW), x -> x.sum(0, 7, HIGH)));
         of("Promise 18", words, "a draw that it cannot make, of each kind of plan", () -> {
-            bad("a", x -> x.sum(0, 3, 0), x -> x.sum(0, 15, 0), x -> x.sum(0, 0, 1));
-            bad("l", x -> x.sum(1, 0b000111, 0), x -> x.sum(1, 0b000101, 0));
-            bad("z", x -> x.sum(2, 0b000011, 0), x -> x.sum(2, 0b111111, 0));
-            bad("t", x -> x.sum(3, 0b000110, 0), x -> x.sum(3, 0b000001, 0));
+            refused(LONG_BAD, "a", x -> x.sum(0, 3, 0), x -> x.sum(0, 15, 0), x -> x.sum(0, 0, 1));
+            refused(LONG_BAD, "l", x -> x.sum(1, 0b000111, 0), x -> x.sum(1, 0b000101, 0));
+            refused(LONG_BAD, "z", x -> x.sum(2, 0b000011, 0), x -> x.sum(2, 0b111111, 0));
+            refused(LONG_BAD, "t", x -> x.sum(3, 0b000110, 0), x -> x.sum(3, 0b000001, 0));
             refused("e", () -> Lists.with(Lists.rich(), "e2"), x -> x.sum(0, 0b010111, 0), LONG_BAD);
         });
         of("Promise 18", words, "draws that they can make", () -> {
@@ -295,17 +268,17 @@ public final class BoundarySumsTest {
             due("t", x.sum(3, 0b000011, 0), 20 + 80);
         });
         of("Promise 18", words, "NOT: the plan cannot be, whichever the draw", () -> {
-            refused("some", BoundarySumsTest::without, x -> x.sum(0, 7, 0), LONG_NOT);
-            refused("none", BoundarySumsTest::without, x -> x.sum(0, 0, 1), LONG_NOT);
-            refused("all", BoundarySumsTest::without, x -> x.sum(0, 63, 0), LONG_NOT);
+            refused("some", Lists::without, x -> x.sum(0, 7, 0), LONG_NOT);
+            refused("none", Lists::without, x -> x.sum(0, 0, 1), LONG_NOT);
+            refused("all", Lists::without, x -> x.sum(0, 63, 0), LONG_NOT);
         });
         of("Promise 18", words, "BAD ahead of NOT, by each argument", () -> {
-            refused("draw", BoundarySumsTest::without, x -> x.sum(0, 64, 0), LONG_BAD);
-            refused("what", BoundarySumsTest::without, x -> x.sum(0, 7, 2), LONG_BAD);
+            refused("draw", Lists::without, x -> x.sum(0, 64, 0), LONG_BAD);
+            refused("what", Lists::without, x -> x.sum(0, 7, 2), LONG_BAD);
         });
     }
 
-    private static void silent() {
+    private void silent() {
         String words = "How many NAMES of a DRAW are SILENT. BAD.";
         of("Promise 19", words, "none, one, all thirty", () -> {
             due("no names", new DrawnList().silent(0), 0);
@@ -333,10 +306,10 @@ public final class BoundarySumsTest {
         return Lists.with(Lists.told(Lists.clustered(2, 2, 2), 1, 2, 3, 4, 5, 7), text);
     }
 
-    private static void spreadRefused() {
+    private void spreadRefused() {
         String words = "SPREAD: above, below. BAD; NOT: the PLAN cannot be, is no a or l, or a VALUE lacks. (As the least long.)";
-        of("Promise 20", words, "no such plan", () -> bad("spread", x -> x.spread(-1, 0), x -> x.spread(4, 0), x -> x.spread(LOW, 0), x -> x.spread(HIGH, 0)));
-        of("Promise 20", words, "what is 0 or 1", () -> bad("spread", x -> x.spread(0, -1), x -> x.spread(0, 2), x -> x.spread(0, LOW), x -> x.spread(0, HIGH)));
+        of("Promise 20", words, "no such plan", () -> refused(LONG_BAD, "spread", x -> x.spread(-1, 0), x -> x.spread(4, 0), x -> x.spread(LOW, 0), x -> x.spread(HIGH, 0)));
+        of("Promise 20", words, "what is 0 or 1", () -> refused(LONG_BAD, "spread", x -> x.spread(0, -1), x -> x.spread(0, 2), x -> x.spread(0, LOW), x -> x.spread(0, HIGH)));
         of("Promise 20", words, "the plan cannot be", () -> {
             for (String text : new String[] {"", "a", "a0", "a7", "a1x", "l0,0,0,0", "l3,0,0,0"}) {
                 refused(text, () -> allTold(text), x -> x.spread(0, 0), LONG_NOT);
@@ -351,19 +324,19 @@ public final class BoundarySumsTest {
         });
         of("Promise 20", words, "a value lacks", () -> refused("spread", Lists::rich, x -> x.spread(0, 0), LONG_NOT));
         of("Promise 20", words, "BAD ahead of NOT", () -> {
-            refused("cannot be", BoundarySumsTest::without, x -> x.spread(0, 2), LONG_BAD);
+            refused("cannot be", Lists::without, x -> x.spread(0, 2), LONG_BAD);
             refused("no a or l", Lists::rich, x -> x.spread(2, -1), LONG_BAD);
         });
     }
 
-    private static void wider(DrawnList x, String one, String other, int want) {
+    private void wider(DrawnList x, String one, String other, int want) {
         Lists.plan(x, 0, one);
         Lists.plan(x, 1, other);
         due(one + " against " + other, x.wider(0, 1), want);
         due(other + " against " + one, x.wider(1, 0), -want);
     }
 
-    private static void wider() {
+    private void wider() {
         String words = "Whether the SPREAD of a PLAN is greater than that of another (1), as great (0), less (-1).";
         of("Promise 21", words, "against itself", () -> due("wider", allTold("a2").wider(0, 0), 0));
         of("Promise 21", words, "0 against 0, by unlike plans", () -> wider(allTold(""), "a6", "l2,2,1,1", 0));
@@ -400,7 +373,7 @@ public final class BoundarySumsTest {
         });
     }
 
-    private static void widerRefused() {
+    private void widerRefused() {
         String words = "BAD; NOT: as spread(), of one of both.";
         of("Promise 21", words, "no such plan, as the one or the other", () -> {
             for (int beyond : new int[] {-1, 4, LOW, HIGH}) {
@@ -430,10 +403,10 @@ public final class BoundarySumsTest {
         });
     }
 
-    private static void edgeRefused() {
+    private void edgeRefused() {
         String words = "EDGES: the least (what = 0), the greatest (1). BAD; NOT: the PLAN cannot be, is no e or z. (As the least long.)";
-        of("Promise 22", words, "no such plan", () -> bad("edge", x -> x.edge(-1, 0), x -> x.edge(4, 0), x -> x.edge(LOW, 0), x -> x.edge(HIGH, 0)));
-        of("Promise 22", words, "what is 0 or 1", () -> bad("edge", x -> x.edge(2, -1), x -> x.edge(2, 2), x -> x.edge(2, LOW), x -> x.edge(2, HIGH)));
+        of("Promise 22", words, "no such plan", () -> refused(LONG_BAD, "edge", x -> x.edge(-1, 0), x -> x.edge(4, 0), x -> x.edge(LOW, 0), x -> x.edge(HIGH, 0)));
+        of("Promise 22", words, "what is 0 or 1", () -> refused(LONG_BAD, "edge", x -> x.edge(2, -1), x -> x.edge(2, 2), x -> x.edge(2, LOW), x -> x.edge(2, HIGH)));
         of("Promise 22", words, "the plan cannot be", () -> {
             for (String text : new String[] {"", "e", "e0", "e31", "z0", "z23", "e1x", "z1,"}) {
                 refused(text, () -> Lists.with(Lists.rich(), text), x -> x.edge(0, 0), LONG_NOT);

@@ -1,11 +1,10 @@
 /** Boundary cases of weights and of who is asked again: parts 4 and 5, promises 23 to 27, sentence by sentence. */
-public final class BoundaryWeightsTest {
-    private static final int LOW = Integer.MIN_VALUE, HIGH = Integer.MAX_VALUE;
-    private static final int NONE = -1, BAD = -2, NOT = -3;
-
-    private static final Cases CASES = new Cases("BoundaryWeightsTest");
-
+public final class BoundaryWeightsTest extends Cases {
     public static void main(String[] args) {
+        new BoundaryWeightsTest().run();
+    }
+
+    void all() {
         weightsBegin();
         knownSums();
         rounds();
@@ -21,30 +20,6 @@ public final class BoundaryWeightsTest {
         best();
         cost();
         again();
-        CASES.close();
-    }
-
-    private static void of(String place, String words, String edge, Runnable body) {
-        CASES.of(place, words, edge, body);
-    }
-
-    private static void due(String what, long got, long want) {
-        CASES.due(what, got, want);
-    }
-
-    private static void refused(String what, Cases.Maker maker, Cases.Call call, long answer) {
-        CASES.refused(what, maker, call, answer);
-    }
-
-    private static void bad(String what, Cases.Call... calls) {
-        for (int k = 0; k < calls.length; k++) {
-            refused(what + ", call " + k, Lists::rich, calls[k], BAD);
-        }
-    }
-
-    /** The object of everything, its plan 0 one that cannot be. */
-    private static DrawnList without() {
-        return Lists.with(Lists.rich(), "a7");
     }
 
     /** The object itself, with the text of plan 0 and all its names told 1. */
@@ -55,13 +30,13 @@ public final class BoundaryWeightsTest {
         return Lists.with(x, text);
     }
 
-    private static void weights(DrawnList x, int draw, int rounds, int... want) {
+    private void weights(DrawnList x, int draw, int rounds, int... want) {
         for (int name = 0; name < want.length; name++) {
             due("weight of " + name + " behind " + rounds, x.weight(0, draw, rounds, name), want[name]);
         }
     }
 
-    private static void weightsBegin() {
+    private void weightsBegin() {
         String words = "each NAME of a DRAW that has a VALUE begins with a WEIGHT of 1000 by its SHARE in a PLAN, cut";
         of("Terms 4", words, "shares of 1, of 2/3, of 7/10, of 3/10", () -> {
             weights(toldOne(Lists.alike(2), "a2"), 3, 0, 1000, 1000);
@@ -94,7 +69,7 @@ public final class BoundaryWeightsTest {
         of("Terms 4", words, "not in the draw", () -> weights(toldOne(Lists.alike(3), "a1"), 2, 0, 0, 3000, 0));
     }
 
-    private static void knownSums() {
+    private void knownSums() {
         String words = "KNOWN SUMS are told of LAYERS and of MARKS (0 to 30000; 0 at first)";
         of("Terms 4", words, "0 at first, of each layer and mark", () -> {
             DrawnList x = new DrawnList();
@@ -120,7 +95,7 @@ public final class BoundaryWeightsTest {
             }
         });
         for (int beyond : new int[] {-1, 30001, LOW, HIGH}) {
-            of("Terms 4", words, beyond + " is BAD", () -> bad("known", x -> x.known(0, 0, beyond), x -> x.known(1, 1, beyond)));
+            of("Terms 4", words, beyond + " is BAD", () -> refused(BAD, "known", x -> x.known(0, 0, beyond), x -> x.known(1, 1, beyond)));
         }
         of("Terms 4", words, "at first: a round leads all to 0", () -> {
             DrawnList x = toldOne(Lists.alike(2), "a2");
@@ -145,7 +120,7 @@ public final class BoundaryWeightsTest {
         return Lists.with(x, "a3");
     }
 
-    private static void rounds() {
+    private void rounds() {
         String words = "A ROUND: first of each LAYER with WEIGHTS above 0 together these become PARTS of its KNOWN SUM by them; then of each MARK likewise.";
         of("Terms 4", words, "none, one, two, twenty-nine, thirty", () -> {
             DrawnList x = slow();
@@ -220,13 +195,13 @@ public final class BoundaryWeightsTest {
     }
 
     /** One layer and one mark of the same known sum, so that the marks keep what the layers gave. */
-    private static void parts(DrawnList x, int draw, int whole, int... want) {
+    private void parts(DrawnList x, int draw, int whole, int... want) {
         x.known(0, 0, whole);
         x.known(1, 0, whole);
         weights(x, draw, 1, want);
     }
 
-    private static void parts() {
+    private void parts() {
         String words = "V times the share by their sum, rounded down each; what is left goes by 1 to those with the greatest rest ahead of rounding, of like ones the least";
         of("Terms 4", words, "of three alike: nothing, 1 to 4, what is left 1, 2 and none", () -> {
             DrawnList x = toldOne(Lists.alike(3), "a3");
@@ -280,7 +255,7 @@ public final class BoundaryWeightsTest {
         });
     }
 
-    private static void misses() {
+    private void misses() {
         String words = "MISS behind so many ROUNDS: the sum of amounts by which WEIGHTS of LAYERS are off their KNOWN SUMS, and likewise of MARKS.";
         of("Terms 4", words, "nothing is off", () -> {
             DrawnList x = toldOne(Lists.alike(1), "a1");
@@ -309,7 +284,7 @@ public final class BoundaryWeightsTest {
         });
     }
 
-    private static void ledSums() {
+    private void ledSums() {
         String words = "LED SUM: WEIGHTS times VALUES, together, by 1000, cut.";
         of("Terms 4", words, "just below a thousand, just a thousand", () -> {
             DrawnList x = Lists.with(Lists.told(Lists.alike(1), 999), "a1");
@@ -341,7 +316,7 @@ public final class BoundaryWeightsTest {
         });
     }
 
-    private static void known() {
+    private void known() {
         String words = "KNOWN SUM of a LAYER (what = 0), a MARK (1): what it was. BAD.";
         of("Promise 23", words, "the last layer and the last mark", () -> {
             DrawnList x = new DrawnList();
@@ -350,19 +325,19 @@ public final class BoundaryWeightsTest {
             due("layer 3 again", x.known(0, 3, 0), 5);
             due("mark 2 again", x.known(1, 2, 0), 6);
         });
-        of("Promise 23", words, "no such layer", () -> bad("known", x -> x.known(0, -1, 1), x -> x.known(0, 4, 1), x -> x.known(0, LOW, 1), x -> x.known(0, HIGH, 1)));
-        of("Promise 23", words, "no such mark", () -> bad("known", x -> x.known(1, -1, 1), x -> x.known(1, 3, 1), x -> x.known(1, LOW, 1), x -> x.known(1, HIGH, 1)));
-        of("Promise 23", words, "what is 0 or 1", () -> bad("known", x -> x.known(-1, 0, 1), x -> x.known(2, 0, 1), x -> x.known(LOW, 0, 1), x -> x.known(HIGH, 0, 1)));
+        of("Promise 23", words, "no such layer", () -> refused(BAD, "known", x -> x.known(0, -1, 1), x -> x.known(0, 4, 1), x -> x.known(0, LOW, 1), x -> x.known(0, HIGH, 1)));
+        of("Promise 23", words, "no such mark", () -> refused(BAD, "known", x -> x.known(1, -1, 1), x -> x.known(1, 3, 1), x -> x.known(1, LOW, 1), x -> x.known(1, HIGH, 1)));
+        of("Promise 23", words, "what is 0 or 1", () -> refused(BAD, "known", x -> x.known(-1, 0, 1), x -> x.known(2, 0, 1), x -> x.known(LOW, 0, 1), x -> x.known(HIGH, 0, 1)));
     }
 
-    private static void weight() {
+    private void weight() {
         String words = "WEIGHT of a NAME behind so many ROUNDS (0 to 30) of a DRAW by a PLAN (0: it has none).";
         of("Promise 24", words, "rounds 0 and 30 are taken", () -> {
             due("0", slow().weight(0, 7, 0, 2), 1000);
             due("30", slow().weight(0, 7, 30, 2), 29507);
         });
         for (int beyond : new int[] {-1, 31, LOW, HIGH}) {
-            of("Promise 24", words, beyond + " rounds are BAD", () -> bad("weight", x -> x.weight(0, 7, beyond, 0)));
+            of("Promise 24", words, beyond + " rounds are BAD", () -> refused(BAD, "weight", x -> x.weight(0, 7, beyond, 0)));
         }
         of("Promise 24", words, "it has none", () -> {
             DrawnList x = Lists.rich();
@@ -386,44 +361,44 @@ public final class BoundaryWeightsTest {
             due("again", x.weight(0, 7, 3, 0), 4286);
         });
         String refusals = "BAD: also a DRAW the PLAN cannot make; NOT: the PLAN cannot be.";
-        of("Promise 24", refusals, "no such plan", () -> bad("weight", x -> x.weight(-1, 7, 0, 0), x -> x.weight(4, 7, 0, 0), x -> x.weight(LOW, 7, 0, 0), x -> x.weight(HIGH, 7, 0, 0)));
-        of("Promise 24", refusals, "no such name", () -> bad("weight", x -> x.weight(0, 7, 0, -1), x -> x.weight(0, 7, 0, 6), x -> x.weight(0, 7, 0, LOW), x -> x.weight(0, 7, 0, HIGH)));
+        of("Promise 24", refusals, "no such plan", () -> refused(BAD, "weight", x -> x.weight(-1, 7, 0, 0), x -> x.weight(4, 7, 0, 0), x -> x.weight(LOW, 7, 0, 0), x -> x.weight(HIGH, 7, 0, 0)));
+        of("Promise 24", refusals, "no such name", () -> refused(BAD, "weight", x -> x.weight(0, 7, 0, -1), x -> x.weight(0, 7, 0, 6), x -> x.weight(0, 7, 0, LOW), x -> x.weight(0, 7, 0, HIGH)));
         of("Promise 24", refusals, "a draw that it cannot make, names that there are not", () ->
-                bad("weight", x -> x.weight(0, 3, 0, 0), x -> x.weight(0, 15, 0, 0), x -> x.weight(0, 0, 0, 0), x -> x.weight(0, 64, 0, 0), x -> x.weight(0, LOW, 0, 0)));
-        of("Promise 24", refusals, "NOT", () -> refused("weight", BoundaryWeightsTest::without, x -> x.weight(0, 7, 0, 0), NOT));
+                refused(BAD, "weight", x -> x.weight(0, 3, 0, 0), x -> x.weight(0, 15, 0, 0), x -> x.weight(0, 0, 0, 0), x -> x.weight(0, 64, 0, 0), x -> x.weight(0, LOW, 0, 0)));
+        of("Promise 24", refusals, "NOT", () -> refused("weight", Lists::without, x -> x.weight(0, 7, 0, 0), NOT));
         of("Promise 24", refusals, "BAD ahead of NOT, by each argument", () -> {
-            refused("draw", BoundaryWeightsTest::without, x -> x.weight(0, 64, 0, 0), BAD);
-            refused("rounds", BoundaryWeightsTest::without, x -> x.weight(0, 7, 31, 0), BAD);
-            refused("name", BoundaryWeightsTest::without, x -> x.weight(0, 7, 0, 6), BAD);
+            refused("draw", Lists::without, x -> x.weight(0, 64, 0, 0), BAD);
+            refused("rounds", Lists::without, x -> x.weight(0, 7, 31, 0), BAD);
+            refused("name", Lists::without, x -> x.weight(0, 7, 0, 6), BAD);
         });
     }
 
-    private static void led() {
+    private void led() {
         String words = "MISS behind so many ROUNDS (what = 0), LED SUM (1). BAD; NOT.";
         of("Promise 25", words, "rounds 0 and 30 are taken", () -> {
             due("0", slow().led(0, 7, 0, 0), 114000);
             due("30", slow().led(0, 7, 30, 0), 986);
         });
-        of("Promise 25", words, "-1 and 31 rounds are BAD", () -> bad("led", x -> x.led(0, 7, -1, 0), x -> x.led(0, 7, 31, 0), x -> x.led(0, 7, LOW, 1), x -> x.led(0, 7, HIGH, 1)));
-        of("Promise 25", words, "what is 0 or 1", () -> bad("led", x -> x.led(0, 7, 0, -1), x -> x.led(0, 7, 0, 2), x -> x.led(0, 7, 0, LOW), x -> x.led(0, 7, 0, HIGH)));
-        of("Promise 25", words, "no such plan", () -> bad("led", x -> x.led(-1, 7, 0, 0), x -> x.led(4, 7, 0, 0)));
+        of("Promise 25", words, "-1 and 31 rounds are BAD", () -> refused(BAD, "led", x -> x.led(0, 7, -1, 0), x -> x.led(0, 7, 31, 0), x -> x.led(0, 7, LOW, 1), x -> x.led(0, 7, HIGH, 1)));
+        of("Promise 25", words, "what is 0 or 1", () -> refused(BAD, "led", x -> x.led(0, 7, 0, -1), x -> x.led(0, 7, 0, 2), x -> x.led(0, 7, 0, LOW), x -> x.led(0, 7, 0, HIGH)));
+        of("Promise 25", words, "no such plan", () -> refused(BAD, "led", x -> x.led(-1, 7, 0, 0), x -> x.led(4, 7, 0, 0)));
         of("Promise 25", words, "a draw that it cannot make, names that there are not", () ->
-                bad("led", x -> x.led(0, 3, 0, 0), x -> x.led(0, 15, 0, 1), x -> x.led(0, 64, 0, 0), x -> x.led(0, -1, 0, 0)));
-        of("Promise 25", words, "NOT", () -> refused("led", BoundaryWeightsTest::without, x -> x.led(0, 7, 0, 0), NOT));
+                refused(BAD, "led", x -> x.led(0, 3, 0, 0), x -> x.led(0, 15, 0, 1), x -> x.led(0, 64, 0, 0), x -> x.led(0, -1, 0, 0)));
+        of("Promise 25", words, "NOT", () -> refused("led", Lists::without, x -> x.led(0, 7, 0, 0), NOT));
         of("Promise 25", words, "BAD ahead of NOT, by each argument", () -> {
-            refused("draw", BoundaryWeightsTest::without, x -> x.led(0, 64, 0, 0), BAD);
-            refused("rounds", BoundaryWeightsTest::without, x -> x.led(0, 7, 31, 0), BAD);
-            refused("what", BoundaryWeightsTest::without, x -> x.led(0, 7, 0, 2), BAD);
+            refused("draw", Lists::without, x -> x.led(0, 64, 0, 0), BAD);
+            refused("rounds", Lists::without, x -> x.led(0, 7, 31, 0), BAD);
+            refused("what", Lists::without, x -> x.led(0, 7, 0, 2), BAD);
         });
     }
 
-    private static void best(DrawnList x, int draw, int price, int set, int gain, int cost) {
+    private void best(DrawnList x, int draw, int price, int set, int gain, int cost) {
         due("clusters for " + price, x.again(0, draw, price, 0), set);
         due("gain for " + price, x.again(0, draw, price, 1), gain);
         due("cost for " + price, x.again(0, draw, price, 2), cost);
     }
 
-    private static void costs() {
+    private void costs() {
         String words = "(COST, told by CLUSTERS, 0 to 100; 5 at first; once for each CLUSTER that is gone to)";
         of("Terms 5", words, "5 at first, each its own", () -> {
             DrawnList x = new DrawnList();
@@ -441,12 +416,12 @@ public final class BoundaryWeightsTest {
             due("0 was taken", x.cost(0, 1), 0);
         });
         for (int beyond : new int[] {-1, 101, LOW, HIGH}) {
-            of("Terms 5", words, beyond + " is BAD", () -> bad("cost", x -> x.cost(0, beyond)));
+            of("Terms 5", words, beyond + " is BAD", () -> refused(BAD, "cost", x -> x.cost(0, beyond)));
         }
         of("Terms 5", words, "once, though three are silent there", () -> best(Lists.with(Lists.clustered(0, 3), "a3"), 7, 5, 2, 3000, 5));
     }
 
-    private static void gains() {
+    private void gains() {
         String words = "GAIN of a set of CLUSTERS: 1000 by SHARE, cut, of the SILENT NAMES there, together.";
         of("Terms 5", words, "those with values gain nothing", () -> {
             DrawnList x = Lists.with(Lists.told(Lists.clustered(2, 1), 0, NONE, NONE), "a3");
@@ -487,7 +462,7 @@ public final class BoundaryWeightsTest {
         return Lists.with(x, "a8");
     }
 
-    private static void withinAPrice() {
+    private void withinAPrice() {
         String words = "THE BEST within a price (0 to 800)";
         of("Terms 5", words, "a price of 0", () -> {
             best(eightClusters(1), 255, 0, 0, 0, 0);
@@ -502,11 +477,11 @@ public final class BoundaryWeightsTest {
             best(eightClusters(100), 255, 799, 127, 7000, 700);
         });
         for (int beyond : new int[] {-1, 801, LOW, HIGH}) {
-            of("Terms 5", words, beyond + " is BAD", () -> bad("again", x -> x.again(0, 7, beyond, 0)));
+            of("Terms 5", words, beyond + " is BAD", () -> refused(BAD, "again", x -> x.again(0, 7, beyond, 0)));
         }
     }
 
-    private static void best() {
+    private void best() {
         String words = "the most GAIN, of like ones the least COST, then the least as bits";
         of("Terms 5", words, "more gain at more cost", () -> {
             DrawnList x = Lists.with(Lists.clustered(1, 2), "a3");
@@ -541,7 +516,7 @@ public final class BoundaryWeightsTest {
         of("Terms 5", words, "the last cluster", () -> best(Lists.with(Lists.clustered(0, 0, 0, 0, 0, 0, 0, 1), "a1"), 1, 800, 128, 1000, 5));
     }
 
-    private static void cost() {
+    private void cost() {
         String words = "COST of a CLUSTER: what it was. BAD.";
         of("Promise 26", words, "clusters 0 and 7", () -> {
             DrawnList x = new DrawnList();
@@ -550,10 +525,10 @@ public final class BoundaryWeightsTest {
             due("0 again", x.cost(0, 3), 1);
             due("7 again", x.cost(7, 3), 2);
         });
-        of("Promise 26", words, "no such cluster", () -> bad("cost", x -> x.cost(-1, 1), x -> x.cost(8, 1), x -> x.cost(LOW, 1), x -> x.cost(HIGH, 1)));
+        of("Promise 26", words, "no such cluster", () -> refused(BAD, "cost", x -> x.cost(-1, 1), x -> x.cost(8, 1), x -> x.cost(LOW, 1), x -> x.cost(HIGH, 1)));
     }
 
-    private static void again() {
+    private void again() {
         String words = "THE BEST within a price: 0 CLUSTERS as bits (with SILENT NAMES alone), 1 GAIN, 2 COST. BAD; NOT: the PLAN cannot be.";
         of("Promise 27", words, "a cluster without silent names is not among them, though it costs nothing", () -> {
             DrawnList x = Lists.with(Lists.told(Lists.clustered(1, 1, 1), 7), "a3");
@@ -575,13 +550,13 @@ public final class BoundaryWeightsTest {
             best(x, 7, 5, 2, 2000, 5);
             best(x, 7, 0, 0, 0, 0);
         });
-        of("Promise 27", words, "what is 0 to 2", () -> bad("again", x -> x.again(0, 7, 0, -1), x -> x.again(0, 7, 0, 3), x -> x.again(0, 7, 0, LOW), x -> x.again(0, 7, 0, HIGH)));
-        of("Promise 27", words, "no such plan, names that there are not", () -> bad("again", x -> x.again(-1, 7, 0, 0), x -> x.again(4, 7, 0, 0), x -> x.again(0, 64, 0, 0), x -> x.again(0, LOW, 0, 0)));
-        of("Promise 27", words, "NOT", () -> refused("again", BoundaryWeightsTest::without, x -> x.again(0, 7, 0, 0), NOT));
+        of("Promise 27", words, "what is 0 to 2", () -> refused(BAD, "again", x -> x.again(0, 7, 0, -1), x -> x.again(0, 7, 0, 3), x -> x.again(0, 7, 0, LOW), x -> x.again(0, 7, 0, HIGH)));
+        of("Promise 27", words, "no such plan, names that there are not", () -> refused(BAD, "again", x -> x.again(-1, 7, 0, 0), x -> x.again(4, 7, 0, 0), x -> x.again(0, 64, 0, 0), x -> x.again(0, LOW, 0, 0)));
+        of("Promise 27", words, "NOT", () -> refused("again", Lists::without, x -> x.again(0, 7, 0, 0), NOT));
         of("Promise 27", words, "BAD ahead of NOT, by each argument", () -> {
-            refused("draw", BoundaryWeightsTest::without, x -> x.again(0, 64, 0, 0), BAD);
-            refused("price", BoundaryWeightsTest::without, x -> x.again(0, 7, 801, 0), BAD);
-            refused("what", BoundaryWeightsTest::without, x -> x.again(0, 7, 0, 3), BAD);
+            refused("draw", Lists::without, x -> x.again(0, 64, 0, 0), BAD);
+            refused("price", Lists::without, x -> x.again(0, 7, 801, 0), BAD);
+            refused("what", Lists::without, x -> x.again(0, 7, 0, 3), BAD);
         });
     }
 }

@@ -12,10 +12,15 @@ import java.util.regex.Pattern;
  * Tests of boundary cases. Each is named by its place in the document, by the document's words there
  * and by the edge that it tries; the words must stand at that place.
  */
-final class Cases {
+abstract class Cases {
+    static final int LOW = Integer.MIN_VALUE, HIGH = Integer.MAX_VALUE;
+    static final int NONE = -1, BAD = -2, NOT = -3, FULL = -4;
+    static final int NULL = -11, INDEX = -12, CAST = -13, STORE = -14, SIZE = -15;
+    static final long LONG_BAD = Long.MIN_VALUE + 2, LONG_NOT = Long.MIN_VALUE + 3;
+    static final int ALL_THIRTY = (1 << 30) - 1;
+
     private static final Path DOCUMENT = Path.of("../shared/DOC.md");
     private static final Pattern PLACE = Pattern.compile("(?m)^## (.*)$|======== (\\d) |^(Refusals), ");
-    private static final int LEAST_INT = Integer.MIN_VALUE;
 
     interface Maker {
         DrawnList make();
@@ -25,15 +30,19 @@ final class Cases {
         long on(DrawnList x);
     }
 
-    private final Check check;
-    private final String document;
+    private final Check check = new Check(getClass().getSimpleName());
+    private final String document = read();
     private final Set<String> names = new HashSet<>();
     private String name = "";
     private int checks;
 
-    Cases(String test) {
-        check = new Check(test);
-        document = read();
+    /** All tests of this place. */
+    abstract void all();
+
+    final void run() {
+        all();
+        System.out.println(names.size() + " cases");
+        check.close();
     }
 
     private static String read() {
@@ -45,7 +54,7 @@ final class Cases {
     }
 
     /** One test: place as "Terms 2", "Refusals" or "Promise 7", words as they stand there. */
-    void of(String place, String words, String edge, Runnable body) {
+    final void of(String place, String words, String edge, Runnable body) {
         name = place + " \"" + words + "\": " + edge;
         checks = 0;
         check.holds(name + ": its words stand there", section(place).contains(words));
@@ -54,25 +63,33 @@ final class Cases {
         check.holds(name + ": it tries something", checks > 0);
     }
 
-    void due(String what, long got, long want) {
+    final void due(String what, long got, long want) {
         checks++;
         check.due(name + ": " + what, got, want);
     }
 
-    void close() {
-        System.out.println(names.size() + " cases");
-        check.close();
-    }
-
     /** The call is answered so, and changes nothing but count() 8 where the answer is a finding. */
-    void refused(String what, Maker maker, Call call, long answer) {
-        boolean found = answer <= -11 && answer >= -15;
+    final void refused(String what, Maker maker, Call call, long answer) {
+        boolean found = answer <= NULL && answer >= SIZE;
         refused(what, maker, call, answer, found ? (int) (-10 - answer) : 0);
     }
 
+    /** Each of the calls likewise, of the object of everything. */
+    final void refused(long answer, String what, Call... calls) {
+        for (int k = 0; k < calls.length; k++) {
+            refused(what + ", call " + k, Lists::rich, calls[k], answer);
+        }
+    }
+
     /** Likewise get(), whose findings all answer the least int. */
-    void getRefused(String what, Maker maker, Call call, int finding) {
-        refused(what, maker, call, LEAST_INT, finding);
+    final void getRefused(String what, Maker maker, Call call, int finding) {
+        refused(what, maker, call, LOW, finding);
+    }
+
+    final void getRefused(int finding, String what, Call... calls) {
+        for (int k = 0; k < calls.length; k++) {
+            getRefused(what + ", call " + k, Lists::rich, calls[k], finding);
+        }
     }
 
     private void refused(String what, Maker maker, Call call, long answer, int finding) {

@@ -79,7 +79,8 @@ final class Lists {
 
     /**
      * Something of everything, nothing as it is at first: six names, answers as of day 8, a plan of
-     * each of four kinds, known sums, costs, a sheet of each form and one that is lost, CAST found.
+     * each of four kinds, known sums, costs, a sheet of five items of each form and one that is lost,
+     * CAST found.
      */
     static DrawnList rich() {
         DrawnList x = new DrawnList();
@@ -109,5 +110,10 @@ final class Lists {
         }
         x.put(0, 1, 0, 0);
         return x;
+    }
+
+    /** The object of everything, its plan 0 one that cannot be. */
+    static DrawnList without() {
+        return with(rich(), "a7");
     }
 }
